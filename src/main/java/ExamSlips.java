@@ -98,7 +98,7 @@ public final class ExamSlips {
         int was = row[question];
         row[question] = value;
         if (what != PUT_KNOWN) {
-            now.version++;
+            now.pricesChanged();
         }
         return accept(was);
     }
@@ -173,7 +173,7 @@ public final class ExamSlips {
         }
         int was = now.inUse;
         now.inUse = paper;
-        now.version++;
+        now.pricesChanged();
         return accept(was);
     }
 
@@ -348,7 +348,6 @@ public final class ExamSlips {
         }
         int was = now.friendHours[friend];
         now.friendHours[friend] = hours;
-        now.version++;
         return accept(was);
     }
 
@@ -586,7 +585,9 @@ public final class ExamSlips {
         final int[] friendHours = new int[FRIENDS];
         final int[] years = new int[YEARS_MOST];
         int yearCount;
-        /** Grows with each change that plans, the diary or shares hang on: they are kept by it. */
+        /** Grows with each change of what lessons take, keep or are for: plans are kept by it. */
+        int pricesVersion;
+        /** Grows with that and with each change of terms and lessons. */
         int version;
 
         void copyFrom(State other) {
@@ -608,6 +609,11 @@ public final class ExamSlips {
             System.arraycopy(other.friendHours, 0, friendHours, 0, FRIENDS);
             System.arraycopy(other.years, 0, years, 0, YEARS_MOST);
             yearCount = other.yearCount;
+            pricesChanged();
+        }
+
+        void pricesChanged() {
+            pricesVersion++;
             version++;
         }
 
@@ -622,7 +628,7 @@ public final class ExamSlips {
             liked[number] = 0;
             out[number] = 0;
             questions++;
-            version++;
+            pricesChanged();
             return number;
         }
 
@@ -1327,6 +1333,7 @@ public final class ExamSlips {
         private final State state;
         private final Teller teller;
         private final Lot lot;
+        private int seenPrices = NONE;
         private int seenVersion = NONE;
         private int size;
         private final int[] bowl = new int[QUESTIONS_MOST];
@@ -1359,6 +1366,14 @@ public final class ExamSlips {
             }
             seenVersion = state.version;
             firstHours = NONE;
+            if (seenPrices != state.pricesVersion) {
+                seenPrices = state.pricesVersion;
+                fillHours();
+            }
+            weighPairs();
+        }
+
+        private void fillHours() {
             size = 0;
             for (int q = 0; q < state.questions; q++) {
                 if (state.out[q] == 0) {
@@ -1376,7 +1391,6 @@ public final class ExamSlips {
             for (int i = size; i >= 0; i--) {
                 fillFrom(i);
             }
-            weighPairs();
         }
 
         private static int pairs(int many) {
@@ -1741,7 +1755,8 @@ public final class ExamSlips {
 
         private final State state;
         private final Teller teller;
-        private int seenVersion = NONE;
+        private int seenPrices = NONE;
+        private final int[] seenHours = new int[FRIENDS];
         private int size;
         private final int[] price = new int[SHARED_MOST];
         /** The questions, cheap ones ahead. */
@@ -1759,10 +1774,11 @@ public final class ExamSlips {
         }
 
         void refresh() {
-            if (seenVersion == state.version) {
+            if (seenPrices == state.pricesVersion && sameHours()) {
                 return;
             }
-            seenVersion = state.version;
+            seenPrices = state.pricesVersion;
+            System.arraycopy(state.friendHours, 0, seenHours, 0, FRIENDS);
             size = Math.min(SHARED_MOST, state.questions);
             for (int q = 0; q < size; q++) {
                 price[q] = teller.hoursOf(q, 1, 0, 0) + teller.hoursOf(q, 2, 0, 0);
@@ -1779,6 +1795,15 @@ public final class ExamSlips {
             }
         }
 
+        private boolean sameHours() {
+            for (int friend = 0; friend < FRIENDS; friend++) {
+                if (seenHours[friend] != state.friendHours[friend]) {
+                    return false;
+                }
+            }
+            return true;
+        }
+
         private void sortIn(int question) {
             int at = question;
             while (at > 0 && price[cheap[at - 1]] > price[question]) {
@@ -1789,9 +1814,9 @@ public final class ExamSlips {
         }
 
         private int mostOfAll() {
-            int most = 0;
-            for (int many = 1; many <= size && canLearn(0, many); many++) {
-                most = many;
+            int most = size;
+            while (most > 0 && !canLearn(0, most)) {
+                most--;
             }
             return most;
         }
@@ -1847,7 +1872,7 @@ public final class ExamSlips {
         }
     }
 
-    /** Chances of counts over many years, in numbers of seven digits of 30 bits and more. */
+    /** Chances of counts over many years: below 2 to the 210, so in digits of 30 bits. */
     private static final class Rarity {
         private static final int DIGITS = 9;
         private static final int BITS = 30;
