@@ -744,10 +744,22 @@ public final class ExamSlips {
 
     /** Reads a text into a paper, or finds the token that can't go on. */
     private static final class Reader {
-        private int[] text;
-        private int length;
-        private int tokenBegin;
-        private int tokenEnd;
+        /** A byte that is a token of its own is its kind; all other kinds stand above. */
+        private static final int END = 256;
+        private static final int STRANGE = 257;
+        private static final int NUMBER = 258;
+        private static final int HEAD = 259;
+        private static final int WORD = 260;
+        private static final int IF = 261;
+        private static final int OR = 262;
+        private static final int AND = 263;
+        private static final int NOT = 264;
+
+        private final int[] kinds = new int[TAPE_MOST + 1];
+        private final int[] values = new int[TAPE_MOST + 1];
+        private final int[] places = new int[TAPE_MOST + 1];
+        /** The token one is at; it never goes beyond the END. */
+        private int at;
         private int parts;
         private int clauses;
         private final int[] heads = new int[Paper.CLAUSES_MOST];
@@ -756,21 +768,19 @@ public final class ExamSlips {
         private int size;
         int fault = NONE;
 
-        Paper read(int[] bytes, int howMany) {
-            text = bytes;
-            length = Math.min(howMany, bytes.length);
-            tokenEnd = 0;
+        Paper read(int[] text, int length) {
+            cutTokens(text, Math.min(length, Math.min(text.length, TAPE_MOST)));
+            at = 0;
             parts = 0;
             clauses = 0;
             size = 0;
             fault = NONE;
-            advance();
             boolean good = clause();
-            for (int i = 0; i < Paper.CLAUSES_MOST && good && isSign(';'); i++) {
-                advance();
+            for (int i = 0; i < Paper.CLAUSES_MOST && good && kinds[at] == ';'; i++) {
+                at++;
                 good = clause();
             }
-            if (good && tokenBegin < length) {
+            if (good && kinds[at] != END) {
                 good = fail();
             }
             if (!good) {
@@ -780,19 +790,95 @@ public final class ExamSlips {
                     Arrays.copyOf(begins, clauses + 1), Arrays.copyOf(steps, size));
         }
 
+        private void cutTokens(int[] text, int length) {
+            int many = 0;
+            int from = 0;
+            while (from < length) {
+                int to = from + 1;
+                while (to < length && (isLetter(text[from]) && isLetter(text[to])
+                        || isDigit(text[from]) && isDigit(text[to]))) {
+                    to++;
+                }
+                if (text[from] != ' ') {
+                    places[many] = from;
+                    name(many, text, from, to);
+                    many++;
+                }
+                from = to;
+            }
+            places[many] = length;
+            kinds[many] = END;
+        }
+
+        private static boolean isLetter(int sign) {
+            return sign >= 'a' && sign <= 'z';
+        }
+
+        private static boolean isDigit(int sign) {
+            return sign >= '0' && sign <= '9';
+        }
+
+        private void name(int token, int[] text, int from, int to) {
+            if (isDigit(text[from])) {
+                nameNumber(token, text, from, to);
+            } else if (isLetter(text[from])) {
+                int found = placeOf(text, from, to, "hours keeps chance ");
+                kinds[token] = found == NONE ? STRANGE : HEAD;
+                if (found == NONE) {
+                    found = placeOf(text, from, to, "king pages level helped liked day question ");
+                    kinds[token] = found == NONE ? STRANGE : WORD;
+                }
+                values[token] = found;
+                if (found == NONE) {
+                    found = placeOf(text, from, to, "if or and not ");
+                    kinds[token] = found == NONE ? STRANGE : IF + found;
+                }
+            } else {
+                kinds[token] = text[from];
+            }
+        }
+
+        private void nameNumber(int token, int[] text, int from, int to) {
+            int number = 0;
+            for (int i = from; i < to && number <= 1000; i++) {
+                number = number * 10 + text[i] - '0';
+            }
+            kinds[token] = number > 1000 ? STRANGE : NUMBER;
+            values[token] = number;
+        }
+
+        /** Which of some words, each with a blank behind it, the text holds there. */
+        private static int placeOf(int[] text, int from, int to, String words) {
+            int word = 0;
+            int begin = 0;
+            for (int i = 0; i < words.length(); i++) {
+                if (words.charAt(i) == ' ') {
+                    boolean same = i - begin == to - from;
+                    for (int j = begin; same && j < i; j++) {
+                        same = text[from + j - begin] == words.charAt(j);
+                    }
+                    if (same) {
+                        return word;
+                    }
+                    word++;
+                    begin = i + 1;
+                }
+            }
+            return NONE;
+        }
+
         private boolean clause() {
-            int head = headHere();
-            if (clauses >= Paper.CLAUSES_MOST || head == NONE) {
+            if (clauses >= Paper.CLAUSES_MOST || kinds[at] != HEAD) {
                 return fail();
             }
-            heads[clauses] = head;
+            heads[clauses] = values[at];
             begins[clauses] = size;
-            advance();
+            at++;
             if (!sum(0)) {
                 return false;
             }
-            if (isWord("if")) {
-                advance();
+            if (kinds[at] == IF) {
+                at++;
                 if (!test(0)) {
                     return false;
                 }
@@ -807,19 +893,17 @@ public final class ExamSlips {
         private boolean test(int depth) {
             boolean good = plain(depth);
             int either = NONE;
-            for (int i = 0; i < TAPE_MOST && good; i++) {
-                if (isWord("and")) {
-                    advance();
+            for (int i = 0; i < TAPE_MOST && good && (kinds[at] == AND || kinds[at] == OR); i++) {
+                if (kinds[at] == AND) {
+                    at++;
                     int both = emit(Paper.AND, 0);
                     good = plain(depth);
                     leadHere(both);
-                } else if (isWord("or")) {
-                    advance();
+                } else {
+                    at++;
                     leadHere(either);
                     either = emit(Paper.OR, 0);
                     good = plain(depth);
-                } else {
-                    break;
                 }
             }
             leadHere(either);
@@ -828,49 +912,53 @@ public final class ExamSlips {
 
         private boolean plain(int depth) {
             int nots = 0;
-            while (nots < TAPE_MOST && isWord("not")) {
-                advance();
+            while (nots < TAPE_MOST && kinds[at] == NOT) {
+                at++;
                 nots++;
             }
-            boolean good;
-            if (isSign('(')) {
+            if (kinds[at] == '(') {
                 if (depth >= Paper.BRACKETS_MOST) {
                     return fail();
                 }
-                advance();
-                good = test(depth + 1) && passSign(')');
-            } else {
-                good = sum(depth);
-                int compared = comparisonHere();
-                if (!good || compared == NONE) {
+                at++;
+                if (!test(depth + 1) || kinds[at] != ')') {
                     return fail();
                 }
-                advance();
-                good = sum(depth);
-                emit(compared, 0);
+                at++;
+            } else {
+                boolean good = sum(depth);
+                int kind = kinds[at];
+                if (!good || kind != '<' && kind != '>' && kind != '=') {
+                    return fail();
+                }
+                at++;
+                if (!sum(depth)) {
+                    return false;
+                }
+                emit(kind == '<' ? Paper.LESS : kind == '>' ? Paper.MORE : Paper.SAME, 0);
             }
             if (nots % 2 == 1) {
                 emit(Paper.NOT, 0);
             }
-            return good;
+            return true;
         }
 
         private boolean sum(int depth) {
             boolean good = part(depth);
             int waiting = NONE;
             for (int i = 0; i < TAPE_MOST && good; i++) {
-                int operation = operationHere();
-                if (operation == NONE) {
-                    break;
-                }
-                advance();
-                if (operation == Paper.PLUS || operation == Paper.MINUS) {
+                int kind = kinds[at];
+                if (kind == '+' || kind == '-') {
+                    at++;
                     emit(waiting, 0);
-                    waiting = operation;
+                    waiting = kind == '+' ? Paper.PLUS : Paper.MINUS;
                     good = part(depth);
+                } else if (kind == '*' || kind == '/') {
+                    at++;
+                    good = part(depth);
+                    emit(kind == '*' ? Paper.TIMES : Paper.OVER, 0);
                 } else {
-                    good = part(depth);
-                    emit(operation, 0);
+                    break;
                 }
             }
             emit(waiting, 0);
@@ -878,42 +966,33 @@ public final class ExamSlips {
         }
 
         private boolean part(int depth) {
-            if (isSign('[')) {
+            if (kinds[at] == '[') {
                 if (depth >= Paper.BRACKETS_MOST) {
                     return fail();
                 }
-                advance();
-                return sum(depth + 1) && passSign(']');
+                at++;
+                if (!sum(depth + 1) || kinds[at] != ']') {
+                    return fail();
+                }
+                at++;
+                return true;
             }
-            int number = numberHere();
-            int word = wordHere();
-            if (number == NONE && word == NONE || parts >= Paper.PARTS_MOST) {
+            boolean fits = kinds[at] == NUMBER || kinds[at] == WORD;
+            if (!fits || parts >= Paper.PARTS_MOST) {
                 return fail();
             }
             parts++;
-            if (number == NONE) {
-                emit(Paper.WORD, word);
-            } else {
-                emit(Paper.NUMBER, number);
-            }
-            advance();
+            emit(kinds[at] == NUMBER ? Paper.NUMBER : Paper.WORD, values[at]);
+            at++;
             return true;
         }
 
         /** Keeps the first fault alone: those behind it only follow from it. */
         private boolean fail() {
             if (fault == NONE) {
-                fault = tokenBegin;
+                fault = places[at];
             }
             return false;
-        }
-
-        private boolean passSign(char sign) {
-            if (!isSign(sign)) {
-                return fail();
-            }
-            advance();
-            return true;
         }
 
         /** A step comes behind the others: its place. NONE for no step. */
@@ -930,93 +1009,6 @@ public final class ExamSlips {
             if (place >= 0 && place < size) {
                 steps[place] |= size << Paper.STEP_BITS;
             }
-        }
-
-        private void advance() {
-            int at = tokenEnd;
-            while (at < length && text[at] == ' ') {
-                at++;
-            }
-            tokenBegin = at;
-            if (at < length && isLetter(text[at])) {
-                while (at < length && isLetter(text[at])) {
-                    at++;
-                }
-            } else if (at < length && isDigit(text[at])) {
-                while (at < length && isDigit(text[at])) {
-                    at++;
-                }
-            } else if (at < length) {
-                at++;
-            }
-            tokenEnd = at;
-        }
-
-        private static boolean isLetter(int sign) {
-            return sign >= 'a' && sign <= 'z';
-        }
-
-        private static boolean isDigit(int sign) {
-            return sign >= '0' && sign <= '9';
-        }
-
-        private boolean isSign(char sign) {
-            return tokenBegin < length && text[tokenBegin] == sign;
-        }
-
-        private boolean isWord(String word) {
-            if (tokenEnd - tokenBegin != word.length()) {
-                return false;
-            }
-            for (int i = 0; i < word.length(); i++) {
-                if (text[tokenBegin + i] != word.charAt(i)) {
-                    return false;
-                }
-            }
-            return true;
-        }
-
-        private int headHere() {
-            return isWord("hours") ? Paper.HOURS_HEAD
-                    : isWord("keeps") ? Paper.KEEPS_HEAD
-                    : isWord("chance") ? Paper.CHANCE_HEAD : NONE;
-        }
-
-        private int wordHere() {
-            return isWord("king") ? Paper.KING_WORD
-                    : isWord("pages") ? Paper.PAGES_WORD
-                    : isWord("level") ? Paper.LEVEL_WORD
-                    : isWord("helped") ? Paper.HELPED_WORD
-                    : isWord("liked") ? Paper.LIKED_WORD
-                    : isWord("day") ? Paper.DAY_WORD
-                    : isWord("question") ? Paper.QUESTION_WORD : NONE;
-        }
-
-        private int operationHere() {
-            return isSign('+') ? Paper.PLUS
-                    : isSign('-') ? Paper.MINUS
-                    : isSign('*') ? Paper.TIMES
-                    : isSign('/') ? Paper.OVER : NONE;
-        }
-
-        private int comparisonHere() {
-            return isSign('<') ? Paper.LESS
-                    : isSign('>') ? Paper.MORE
-                    : isSign('=') ? Paper.SAME : NONE;
-        }
-
-        private int numberHere() {
-            if (tokenBegin >= length || !isDigit(text[tokenBegin])) {
-                return NONE;
-            }
-            int number = 0;
-            for (int i = tokenBegin; i < tokenEnd; i++) {
-                number = number * 10 + text[i] - '0';
-                if (number > 1000) {
-                    return NONE;
-                }
-            }
-            return number;
         }
     }
 
@@ -1121,22 +1113,21 @@ public final class ExamSlips {
             if (top < 2 || step == Paper.OVER && stack[top - 1] == 0) {
                 return false;
             }
-            long made = made(step, stack[top - 2], stack[top - 1]);
             top--;
+            long left = stack[top - 1];
+            long other = stack[top];
+            long made;
+            switch (step) {
+                case Paper.PLUS: made = left + other; break;
+                case Paper.MINUS: made = left - other; break;
+                case Paper.TIMES: made = left * other; break;
+                case Paper.OVER: made = left / other; break;
+                case Paper.LESS: made = left < other ? 1 : 0; break;
+                case Paper.MORE: made = left > other ? 1 : 0; break;
+                default: made = left == other ? 1 : 0;
+            }
             stack[top - 1] = made;
             return made >= -FAR && made <= FAR;
-        }
-
-        private static long made(int step, long left, long other) {
-            switch (step) {
-                case Paper.PLUS: return left + other;
-                case Paper.MINUS: return left - other;
-                case Paper.TIMES: return left * other;
-                case Paper.OVER: return other == 0 ? 0 : left / other;
-                case Paper.LESS: return left < other ? 1 : 0;
-                case Paper.MORE: return left > other ? 1 : 0;
-                default: return left == other ? 1 : 0;
-            }
         }
     }
 

@@ -18,13 +18,14 @@ public final class OracleTest {
         for (int run = 0; run < 1500 && wrong < 20; run++) {
             new Run(run, 7, 120).go();
         }
-        for (int run = 0; run < 60 && wrong < 20; run++) {
-            new Run(100_000 + run, 20, 200).go();
+        for (int run = 0; run < 30 && wrong < 20; run++) {
+            new Run(100_000 + run, 20, 150).go();
         }
         for (int run = 0; run < 40_000 && wrong < 20; run++) {
             readOne(run);
         }
         sharesOfTwelve();
+        plansOfTen();
         System.out.println(wrong == 0 ? "OracleTest: " + asked + " answers are as due" : "OracleTest: " + wrong + " wrong");
         if (wrong != 0) {
             System.exit(1);
@@ -81,6 +82,40 @@ public final class OracleTest {
             }
             for (int q = -1; q < 15; q++) {
                 due(seed, log, "share " + q, x.share(q), o.share(q));
+            }
+        }
+    }
+
+    /** Larger bowls with help among kings, every scheme tried for a few numbers of hours. */
+    private static void plansOfTen() {
+        for (int seed = 0; seed < 10; seed++) {
+            Random random = new Random(seed + 77);
+            ExamSlips x = new ExamSlips();
+            Oracle o = new Oracle();
+            List<String> log = new ArrayList<>();
+            for (int i = 0; i < 10; i++) {
+                int king = random.nextInt(seed % 2 == 0 ? 5 : 3);
+                int pages = 1 + random.nextInt(99);
+                x.question(king, pages);
+                o.question(king, pages);
+            }
+            Run.feedBoth(x, o, Texts.bytes("hours pages/20+level; hours level if helped=1 and pages>30; chance 40+level*25 if level>0"));
+            due(seed, log, "paper", x.paper(), o.paper());
+            due(seed, log, "use", x.use(0), o.use(0));
+            int lie = 2 + random.nextInt(7);
+            x.terms(0, lie);
+            o.terms(0, lie);
+            int wanted = 1 + random.nextInt(3);
+            x.terms(2, wanted);
+            o.terms(2, wanted);
+            for (int hours = 3 + seed % 4; hours < 60; hours += 9) {
+                o.findBest(hours);
+                due(seed, log, "best " + hours, x.best(hours, 0), o.bestOdds.part(0));
+                due(seed, log, "best " + hours, x.best(hours, 1), o.bestOdds.part(1));
+                due(seed, log, "best " + hours, x.best(hours, 2), o.bestHours);
+                for (int q = 0; q < 10; q++) {
+                    due(seed, log, "level " + hours + " " + q, x.level(hours, q), o.bestRow[q]);
+                }
             }
         }
     }
