@@ -1317,9 +1317,8 @@ public final class ExamSlips {
      */
     private static final class Planner {
         private static final int FAR = 100_000;
-        /** Pairs (level 1, level 2) for up to 20, and these summed over all 0 .. 20 left. */
+        /** Pairs (level 1, level 2) for up to 20. */
         private static final int PAIRS_MOST = 231;
-        private static final int TABLE_MOST = 1771 * 16;
 
         private final State state;
         private final Teller teller;
@@ -1334,7 +1333,8 @@ public final class ExamSlips {
         private final int[] kingBit = new int[QUESTIONS_MOST];
         private final int[] bitsAhead = new int[QUESTIONS_MOST + 1];
         private final int[] offset = new int[QUESTIONS_MOST + 1];
-        private final int[] fewest = new int[TABLE_MOST];
+        /** Grows as bowls and kings ask for it: 28,336 at most, but few objects need so many. */
+        private int[] fewest = new int[PAIRS_MOST];
         private final long[] passWays = new long[PAIRS_MOST];
         private final long[] setPasses = new long[(LIE_MOST + 1) * (LIE_MOST + 1)];
         private int firstHours = NONE;
@@ -1378,6 +1378,9 @@ public final class ExamSlips {
             for (int i = 0; i <= size; i++) {
                 offset[i] = used;
                 used += pairs(size - i) << bitsAhead[i];
+            }
+            if (fewest.length < used) {
+                fewest = new int[Math.max(used, 2 * fewest.length)];
             }
             for (int i = size; i >= 0; i--) {
                 fillFrom(i);
@@ -1755,7 +1758,7 @@ public final class ExamSlips {
         private final int[] left = new int[FRIENDS];
         private final int[] packed = new int[SHARED_MOST];
         /** By sets of what is packed: the least friend and hours used of that with which it is. */
-        private final int[] reach = new int[1 << SHARED_MOST];
+        private int[] reach = new int[1];
         final int[] who = new int[SHARED_MOST];
         int together;
 
@@ -1838,6 +1841,9 @@ public final class ExamSlips {
             }
             if (taken < many || hours > left[0] + left[1] + left[2]) {
                 return false;
+            }
+            if (reach.length < 1 << many) {
+                reach = new int[1 << many];
             }
             reach[0] = 0;
             for (int set = 1; set < 1 << many; set++) {

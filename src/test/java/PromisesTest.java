@@ -297,6 +297,10 @@ public final class PromisesTest {
         faultAt("hours hours", 6);
         faultAt("hours levels", 6);
         faultAt("hours level2", 11);
+        faultAt("hours levelz", 6);
+        faultAt("hours levela", 6);
+        faultAt("hours level{", 11);
+        faultAt("hours 90:", 8);
         faultAt("hours 1\n", 7);
         faultAt("hours 1 if 1=1 or and", 18);
         reads("hours5");
@@ -518,6 +522,23 @@ public final class PromisesTest {
         due("pass(1)", x.pass(1), 2);
         x.terms(0, 3);
         due("pass(0), all lie there: no leaning", x.pass(0), 1);
+        x.terms(0, 1);
+        x.know(0, 0, 1);
+        due("pass(0), the liked one is half known", x.pass(0), 1);
+        due("pass(1)", x.pass(1), 2);
+        x.terms(3, 50);
+        // by a half 1/2; else 1/3 of a half and 1/3
+        due("pass(0)", x.pass(0), 1);
+        due("pass(1)", x.pass(1), 2);
+        x.know(0, 0, 0);
+        x.know(3, 1, 1);
+        x.know(3, 0, 1);
+        // liked 0 (not), 3 (half): 1/4; else a half, for 2 (well) and 3 of three
+        due("pass(0), liked ones of two levels", x.pass(0), 3);
+        due("pass(1)", x.pass(1), 8);
+        x.know(3, 0, 0);
+        x.know(3, 1, 0);
+        x.terms(3, 100);
         x.know(0, 1, 0);
         x.terms(0, 2);
         due("pass(0), the liked one is out: no leaning", x.pass(0), 2);
@@ -559,6 +580,13 @@ public final class PromisesTest {
         // 01: 3/2, 02: 3/2, 12: 1
         due("mean(0)", x.mean(0), 4);
         due("mean(1)", x.mean(1), 3);
+        x.terms(0, 3);
+        x.know(1, 0, 2);
+        due("mean(0), all three", x.mean(0), 5);
+        due("mean(1)", x.mean(1), 2);
+        x.know(2, 0, 2);
+        due("mean(0), all three for sure", x.mean(0), 3);
+        due("mean(1)", x.mean(1), 1);
         due("mean(2)", x.mean(2), -1);
         due("mean(-1)", x.mean(-1), -1);
         promise = 17;
@@ -632,6 +660,15 @@ public final class PromisesTest {
         due("best(400, 2)", x.best(400, 2), 24);
         due("best(-1, 0)", x.best(-1, 0), -1);
         due("best(401, 0)", x.best(401, 0), -1);
+        x.terms(2, 3);
+        x.terms(0, 3);
+        // all three at least half: 1/8 by 12 hours, 1/2 by 20
+        due("best(11, 0), three wanted", x.best(11, 0), 0);
+        due("best(11, 2)", x.best(11, 2), 0);
+        due("best(12, 1)", x.best(12, 1), 8);
+        due("best(20, 1)", x.best(20, 1), 2);
+        x.terms(2, 1);
+        x.terms(0, 1);
         due("best(4, 3)", x.best(4, 3), -1);
         due("best(4, -1)", x.best(4, -1), -1);
         x.know(0, 2, 1);
@@ -654,6 +691,25 @@ public final class PromisesTest {
         due("best(42, 0)", z.best(42, 0), 2);
         z.know(0, 2, 1);
         due("best(42, 2), the helper is out", z.best(42, 2), 40);
+        ExamSlips half = told("chance 100 if level=1");
+        half.question(0, 3);
+        half.terms(0, 1);
+        half.terms(2, 1);
+        due("best(400, 2), all at level 1 alone", half.best(400, 2), 12);
+        due("best(400, 0)", half.best(400, 0), 1);
+        ExamSlips late = told("hours 9-helped*8 if level=2");
+        late.question(3, 5);
+        late.know(1, 2, 1);
+        late.terms(0, 1);
+        late.terms(2, 1);
+        // 4 + 9, then 4 + 1
+        due("best(400, 2), help at level 2 alone", late.best(400, 2), 18);
+        ExamSlips soon = told("hours 9-helped*8 if level=1");
+        soon.question(3, 5);
+        soon.know(1, 2, 1);
+        soon.terms(0, 1);
+        soon.terms(2, 1);
+        due("best(400, 2), help at level 1 alone", soon.best(400, 2), 18);
         ExamSlips none = told("hours 20-helped*19");
         none.question(0, 5);
         none.terms(0, 1);
@@ -675,6 +731,8 @@ public final class PromisesTest {
         }
         due("level(12, 3)", x.level(12, 3), -1);
         due("level(12, -1)", x.level(12, -1), -1);
+        due("level(0, 0)", x.level(0, 0), 0);
+        due("level(400, 0)", x.level(400, 0), 2);
         due("level(401, 0)", x.level(401, 0), -1);
         due("level(-1, 0)", x.level(-1, 0), -1);
         x.know(2, 2, 1);
@@ -889,6 +947,23 @@ public final class PromisesTest {
         due("share(1), though it is out", x.share(1), 1);
         due("share(3)", x.share(3), -1);
         due("share(-2)", x.share(-2), -1);
+        ExamSlips tight = told("hours 3 if question<3;hours 2 if question>2;hours 20 if day>0");
+        for (int i = 0; i < 4; i++) {
+            tight.question(0, 1);
+        }
+        for (int f = 0; f < 3; f++) {
+            tight.friend(f, 10);
+        }
+        // 6, 6, 6, 4, 4, 4 by 10, 10, 10: each one of both
+        due("share(-1), packed without a gap", tight.share(-1), 6);
+        int[] pairs = {0, 1, 2, 0, 1, 2};
+        for (int q = 0; q < 6; q++) {
+            due("share(" + q + ")", tight.share(q), pairs[q]);
+        }
+        for (int f = 0; f < 3; f++) {
+            tight.friend(f, 9);
+        }
+        due("share(-1), by other hours", tight.share(-1), 4);
         ExamSlips y = with(14);
         y.friend(0, 99);
         y.friend(1, 99);
@@ -919,6 +994,7 @@ public final class PromisesTest {
         due("ill(3, 100)", x.ill(3, 100), 0);
         x.terms(4, 0);
         due("ill(3, 100)", x.ill(3, 100), 1_000_000);
+        due("ill(3, 0)", x.ill(3, 0), 0);
         due("ill(4, 1)", x.ill(4, 1), -1);
         due("ill(-1, 1)", x.ill(-1, 1), -1);
         due("ill(1, 101)", x.ill(1, 101), -1);
@@ -1030,6 +1106,11 @@ public final class PromisesTest {
         // (19/20)^40
         due("seldom(5)", y.seldom(5), 128_512);
         due("seldom(-1), a million at most", y.seldom(-1), 1_000_000);
+        ExamSlips z = with(2);
+        z.terms(0, 1);
+        z.year(2);
+        z.year(2);
+        due("seldom(-1), the first is the least", z.seldom(-1), 500_000);
         due("seldom(-1) without questions", new ExamSlips().seldom(-1), -1);
     }
 
@@ -1093,6 +1174,9 @@ public final class PromisesTest {
         due("exam(0): 1 first, 45 is below 46; then 41 below 45", y.exam(0), 2);
         due("exam(1000000)", y.exam(1_000_000) >= 0 ? 1 : 0, 1);
         promise = 39;
+        ExamSlips sure = told("chance 100");
+        due("exams(7, 0), all pass", sure.exams(7, 0), 7);
+        due("exams(500, 1000000)", sure.exams(500, 1_000_000), 500);
         due("exams(0, 0)", y.exams(0, 0), -1);
         due("exams(501, 0)", y.exams(501, 0), -1);
         due("exams(1, -1)", y.exams(1, -1), -1);
@@ -1100,6 +1184,9 @@ public final class PromisesTest {
         // s % 100: 45, 41; 89, 57; 60, 50; 73, 41
         due("exams(1, 0)", y.exams(1, 0), 1);
         due("exams(4, 0), one behind the other", y.exams(4, 0), 1);
+        y.terms(0, 2);
+        due("exams(4, 0), no draws for just as many as lie", y.exams(4, 0), 1);
+        due("exam(0)", y.exam(0), 2);
         due("exams(500, 3)", y.exams(500, 3), manyPassed(500, 3));
         due("status()", y.status(), 0);
     }
