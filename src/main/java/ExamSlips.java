@@ -1340,7 +1340,8 @@ public final class ExamSlips {
         private int firstHours = NONE;
         /** By question; NONE: it is out. */
         final int[] firstLevel = new int[QUESTIONS_MOST];
-        final boolean[] firstHelped = new boolean[QUESTIONS_MOST];
+        /** By question: 1 if it is helped, or 0. */
+        final int[] firstHelped = new int[QUESTIONS_MOST];
         long whole = 1;
         long bestWays;
         int bestHours;
@@ -1546,7 +1547,7 @@ public final class ExamSlips {
             firstHours = hours;
             choose(hours);
             Arrays.fill(firstLevel, NONE);
-            Arrays.fill(firstHelped, false);
+            Arrays.fill(firstHelped, 0);
             int one = 0;
             int two = 0;
             int kings = 0;
@@ -1566,7 +1567,7 @@ public final class ExamSlips {
                 }
                 spent += level == 0 ? 0 : prices[priceAt(i, helped, level)];
                 firstLevel[bowl[i]] = level;
-                firstHelped[bowl[i]] = helped == 1;
+                firstHelped[bowl[i]] = helped;
             }
         }
 
@@ -1586,7 +1587,7 @@ public final class ExamSlips {
         }
 
         int firstTakes(int question, int level) {
-            return teller.hoursOf(question, level, firstHelped[question] ? 1 : 0, 0);
+            return teller.hoursOf(question, level, firstHelped[question], 0);
         }
     }
 
