@@ -6,6 +6,9 @@
 public final class EdgesTest {
     private static final int NONE = ExamSlips.NONE;
     private static final int NOTHING = -10_000_000;
+    private static final String BILLION = "1000*1000*1000";
+    /** Hours and days of a lesson in a diary, so that help and forgetting are seen. */
+    private static final String HELPED = "hours 5-helped*3;keeps 2";
     private static final int LEAST = Integer.MIN_VALUE;
     private static final int MOST = Integer.MAX_VALUE;
     private static final int LIE = 0;
@@ -500,6 +503,7 @@ public final class EdgesTest {
         reads("hours 7" + " ".repeat(393));
         faultAt("hours 7" + " ".repeat(392) + "?", 399);
         faultAt("?".repeat(400), 0);
+        faultAt("a1".repeat(200), 0);
         faultAt("hours 1 if " + "(".repeat(389), 19);
         reads("hours 1 if 1=1" + "+1".repeat(47) + " ".repeat(291) + " ");
         faultAt("keeps" + " ".repeat(395), 400);
@@ -617,6 +621,12 @@ public final class EdgesTest {
     }
 
     private static void tokens() {
+        rowsOfLetters();
+        rowsOfDigits();
+        singleBytesAndBlanks();
+    }
+
+    private static void rowsOfLetters() {
         sentence("TOKENS: longest rows of letters a .. z");
         faultAt("hoursz 1", 0);
         faultAt("hour s 1", 0);
@@ -635,6 +645,9 @@ public final class EdgesTest {
         faultAt("hoursZ", 5);
         faultAt("HOURS 1", 0);
         faultAt("Keeps 1", 0);
+    }
+
+    private static void rowsOfDigits() {
         sentence("TOKENS: longest rows of digits");
         faultAt("hours 1 2", 8);
         faultAt("hours 10 00", 9);
@@ -645,6 +658,9 @@ public final class EdgesTest {
         due("hours 12/3", hoursBy("hours 18/3"), 6);
         faultAt("hours 12:3", 8);
         faultAt("hours 12:", 8);
+    }
+
+    private static void singleBytesAndBlanks() {
         sentence("single other bytes");
         faultAt("hours 1\t", 7);
         faultAt("\thours 1", 0);
@@ -668,11 +684,22 @@ public final class EdgesTest {
     }
 
     private static void grammar() {
+        clausesInARow();
+        orsAndAnds();
+        plainTests();
+        sumsAndTerms();
+        numbersToAThousand();
+        bracketsAndWords();
+    }
+
+    private static void clausesInARow() {
         sentence("CLAUSE {\";\" CLAUSE}");
         faultAt(";hours 1", 0);
         faultAt("hours 1;", 8);
         faultAt("hours 1;;hours 1", 8);
         faultAt("hours 1 hours 1", 8);
+        faultAt("hours 1 all", 8);
+        faultAt("hours 1 1001", 8);
         faultAt("hours 1,hours 1", 7);
         reads("hours 1;hours 1");
         sentence("CLAUSE: HEAD SUM [\"if\" TEST]");
@@ -686,6 +713,8 @@ public final class EdgesTest {
         faultAt("hours 1 if;", 10);
         faultAt("hours 1 if 1=1 if 1=1", 15);
         faultAt("hours 1 1=1", 8);
+        faultAt("hours 1 if 1=1 all", 15);
+        faultAt("hours 1 if 1=1 1001", 15);
         sentence("HEAD: \"hours\" | \"keeps\" | \"chance\"");
         reads("hours 1");
         reads("keeps 1");
@@ -693,6 +722,9 @@ public final class EdgesTest {
         faultAt("chances 1", 0);
         faultAt("hours hours", 6);
         faultAt("pages 1", 0);
+    }
+
+    private static void orsAndAnds() {
         sentence("TEST: BOTH {\"or\" BOTH}");
         faultAt("hours 1 if or 1=1", 11);
         faultAt("hours 1 if 1=1 or", 17);
@@ -705,6 +737,9 @@ public final class EdgesTest {
         faultAt("hours 1 and 1=1", 8);
         faultAt("hours 1 if 1=1 1=1", 15);
         faultAt("hours 1 if 1=1 not 1=1", 15);
+    }
+
+    private static void plainTests() {
         sentence("PLAIN: \"not\" PLAIN | \"(\" TEST \")\" | SUM (\"<\" | \">\" | \"=\") SUM");
         faultAt("hours 1 if not", 14);
         faultAt("hours 1 if not and", 15);
@@ -724,6 +759,9 @@ public final class EdgesTest {
         faultAt("hours 1 if 1=not 1=1", 13);
         faultAt("hours 1 if 1=(1=1)", 13);
         reads("hours 1 if ((1=1) or (2<3 and not(3>4)))");
+    }
+
+    private static void sumsAndTerms() {
         sentence("SUM: TERM {(\"+\" | \"-\") TERM}");
         faultAt("hours 1+", 8);
         faultAt("hours 1-", 8);
@@ -739,18 +777,26 @@ public final class EdgesTest {
         faultAt("hours 2*/2", 8);
         faultAt("hours 2*-2", 8);
         faultAt("hours 2%2", 7);
+    }
+
+    private static void numbersToAThousand() {
         sentence("PART: NUMBER (to 1,000)");
         reads("hours 0");
         reads("hours 1000");
         reads("hours 0001000");
         faultAt("hours 1001", 6);
         faultAt("hours 0001001", 6);
+        faultAt("hours 10000", 6);
+        faultAt("hours 1000000", 6);
         faultAt("hours 1+1001", 8);
         faultAt("hours 4294967297", 6);
         faultAt("hours 18446744073709551617", 6);
         faultAt("hours " + "9".repeat(394), 6);
         reads("hours " + "0".repeat(393) + "1");
         due("hours of a long row of digits", hoursBy("hours " + "0".repeat(392) + "19"), 19);
+    }
+
+    private static void bracketsAndWords() {
         sentence("PART: \"[\" SUM \"]\"");
         faultAt("hours []", 7);
         faultAt("hours [1", 8);
@@ -771,6 +817,13 @@ public final class EdgesTest {
     }
 
     private static void limitsOfTexts() {
+        twelveClauses();
+        fiftyParts();
+        sixLongPapers();
+        eightBrackets();
+    }
+
+    private static void twelveClauses() {
         sentence("CLAUSE {\";\" CLAUSE}, 12 at most (FAULT at the 13th's first TOKEN)");
         reads("hours 1;".repeat(11) + "hours 9");
         due("hours by the 12th", hoursBy("hours 8;".repeat(11) + "hours 9"), 9);
@@ -782,6 +835,9 @@ public final class EdgesTest {
         ExamSlips twice = new ExamSlips();
         due("12 clauses", paper(twice, "hours 1;".repeat(11) + "hours 9"), 0);
         due("12 clauses once more", paper(twice, "keeps 1;".repeat(11) + "keeps 9"), 1);
+    }
+
+    private static void fiftyParts() {
         sentence("50 PARTS that are NUMBERS and words (FAULT at the 51st) at most");
         reads("hours 1" + "+1".repeat(49));
         faultAt("hours 1" + "+1".repeat(50), 7 + 49 * 2 + 1);
@@ -807,6 +863,21 @@ public final class EdgesTest {
         due("50 parts once more", paper(x, "hours 1" + "+1".repeat(49)), 1);
         due("51 parts", paper(x, "hours 1" + "+1".repeat(50)), -6);
         due("50 parts behind a fault", paper(x, "hours 1" + "+1".repeat(49)), 2);
+    }
+
+    private static void sixLongPapers() {
+        sentence("at most: six TEXTS as long as can be are told as one is");
+        ExamSlips six = of(1);
+        for (int number = 0; number < 6; number++) {
+            paper(six, "hours 0" + "+0".repeat(46) + "+" + (number + 5) + " if not 1=2");
+        }
+        for (int number = 0; number < 6; number++) {
+            six.use(number);
+            due("takes by " + number, six.takes(0, 1, 0), number + 5);
+        }
+    }
+
+    private static void eightBrackets() {
         sentence("8 brackets of both kinds, within one another (FAULT at the 9th) at most");
         reads("hours " + "[".repeat(8) + "1" + "]".repeat(8));
         faultAt("hours " + "[".repeat(9) + "1" + "]".repeat(9), 14);
@@ -846,6 +917,15 @@ public final class EdgesTest {
     }
 
     private static void telling() {
+        theLastThatHolds();
+        comparing();
+        termsAheadOfSums();
+        andsAheadOfOrs();
+        nots();
+        cutTowardsZero();
+    }
+
+    private static void theLastThatHolds() {
         sentence("Told by a HEAD is what the last CLAUSE with it that HOLDS tells");
         due("two that hold", hoursBy("hours 7;hours 9"), 9);
         due("the last does not hold", hoursBy("hours 7;hours 9 if 1=2"), 7);
@@ -858,6 +938,9 @@ public final class EdgesTest {
         due("if so", hoursBy("hours 7 if 1=1"), 7);
         due("if not so", hoursBy("hours 7 if 1=2"), 4);
         due("without", hoursBy("hours 7"), 7);
+    }
+
+    private static void comparing() {
         sentence("SUM (\"<\" | \">\" | \"=\") SUM");
         due("1<2", hoursBy("hours 9 if 1<2"), 9);
         due("2<2", hoursBy("hours 9 if 2<2"), 4);
@@ -870,6 +953,9 @@ public final class EdgesTest {
         due("3=2", hoursBy("hours 9 if 3=2"), 4);
         due("below 0", hoursBy("hours 9 if 0-2<0-1"), 9);
         due("sums on both sides", hoursBy("hours 9 if 1+2*3=10-3"), 9);
+    }
+
+    private static void termsAheadOfSums() {
         sentence("TERMS ahead of SUMS, from the left");
         due("2+3*4", hoursBy("hours 2+3*4"), 14);
         due("2*3+4", hoursBy("hours 2*3+4"), 10);
@@ -881,6 +967,9 @@ public final class EdgesTest {
         due("2*7/2", hoursBy("hours 2*7/2"), 7);
         due("20-2*[3+4]+1*3", hoursBy("hours 20-2*[3+4]+1*3"), 9);
         due("1+2*3*2-4/2/2+3", hoursBy("hours 1+2*3*2-4/2/2+3"), 15);
+    }
+
+    private static void andsAheadOfOrs() {
         sentence("BOTH ahead of TEST");
         due("so or so and not", hoursBy("hours 9 if 1=1 or 1=1 and 1=2"), 9);
         due("not and so or so", hoursBy("hours 9 if 1=2 and 1=1 or 1=1"), 9);
@@ -892,14 +981,26 @@ public final class EdgesTest {
         due("so and so or not", hoursBy("hours 9 if 1=1 and 2=2 or 1=2"), 9);
         due("not or so and so", hoursBy("hours 9 if 1=2 or 1=1 and 2=2"), 9);
         due("not or so and not", hoursBy("hours 9 if 1=2 or 1=1 and 1=2"), 4);
+    }
+
+    private static void nots() {
         sentence("\"not\" PLAIN");
         due("not so", hoursBy("hours 9 if not 1=1"), 4);
         due("not not so", hoursBy("hours 9 if not not 1=1"), 9);
         due("not not not so", hoursBy("hours 9 if not not not 1=1"), 4);
+        due("not (not so)", hoursBy("hours 9 if not (not 1=1)"), 9);
+        due("not (not (not so))", hoursBy("hours 9 if not (not (not 1=1))"), 4);
+        due("not so and so", hoursBy("hours 9 if not 1=1 and 1=1"), 4);
+        due("so and not so", hoursBy("hours 9 if 1=1 and not 1=1"), 4);
+        due("not so or so", hoursBy("hours 9 if not 1=1 or 1=1"), 9);
+        due("not so or not so", hoursBy("hours 9 if not 1=1 or not 1=1"), 4);
         due("not binds one PLAIN", hoursBy("hours 9 if not 1=2 and 1=1"), 9);
         due("not binds one PLAIN", hoursBy("hours 9 if not 1=1 or 1=1"), 9);
         due("not of brackets", hoursBy("hours 9 if not (1=1 or 1=1)"), 4);
         due("not of brackets", hoursBy("hours 9 if not (1=1 and 1=2)"), 9);
+    }
+
+    private static void cutTowardsZero() {
         sentence("/ is cut towards 0");
         due("7/2", hoursBy("hours 7/2"), 3);
         due("10+[0-7]/2", hoursBy("hours 10+[0-7]/2"), 7);
@@ -912,34 +1013,46 @@ public final class EdgesTest {
     }
 
     private static void brokenSums() {
+        beyondABillion();
+        beyondABillionByTimes();
+        dividedByZero();
+        whatCanStillMatter();
+    }
+
+    private static void beyondABillion() {
         sentence("Beyond 1,000,000,000 either way, a SUM is BROKEN: by +");
-        String billion = "1000*1000*1000";
-        due("a billion", hoursBy("hours 9;hours [" + billion + "-1+1]/1000/1000/100"), 10);
-        due("a billion and 1", hoursBy("hours 9;hours [" + billion + "+1]/1000/1000/100"), 9);
-        due("a billion and 0", hoursBy("hours 9;hours [" + billion + "+0]/1000/1000/100"), 10);
+        due("a billion", hoursBy("hours 9;hours [" + BILLION + "-1+1]/1000/1000/100"), 10);
+        due("a billion and 1", hoursBy("hours 9;hours [" + BILLION + "+1]/1000/1000/100"), 9);
+        due("a billion and 0", hoursBy("hours 9;hours [" + BILLION + "+0]/1000/1000/100"), 10);
         sentence("Beyond 1,000,000,000 either way, a SUM is BROKEN: by -");
-        due("a billion below 0", hoursBy("hours 9;hours 20+[0-" + billion + "]/1000/1000/100"), 10);
-        due("a billion and 1 below 0", hoursBy("hours 9;hours 20+[0-" + billion + "-1]/1000/1000/100"), 9);
-        due("a billion less 1 below 0", hoursBy("hours 9;hours 20+[0-" + billion + "+1-1]/1000/1000/100"), 10);
-        due("1 less a billion below 0", hoursBy("hours 9;hours 1-[0-" + billion + "]"), 9);
-        due("0 less a billion below 0", hoursBy("hours 9;hours [0-[0-" + billion + "]]/1000/1000/100"), 10);
+        due("a billion below 0", hoursBy("hours 9;hours 20+[0-" + BILLION + "]/1000/1000/100"), 10);
+        due("a billion and 1 below 0", hoursBy("hours 9;hours 20+[0-" + BILLION + "-1]/1000/1000/100"), 9);
+        due("a billion less 1 below 0", hoursBy("hours 9;hours 20+[0-" + BILLION + "+1-1]/1000/1000/100"), 10);
+        due("1 less a billion below 0", hoursBy("hours 9;hours 1-[0-" + BILLION + "]"), 9);
+        due("0 less a billion below 0", hoursBy("hours 9;hours [0-[0-" + BILLION + "]]/1000/1000/100"), 10);
+    }
+
+    private static void beyondABillionByTimes() {
         sentence("Beyond 1,000,000,000 either way, a SUM is BROKEN: by *");
-        due("a billion times 1", hoursBy("hours 9;hours " + billion + "*1/1000/1000/100"), 10);
+        due("a billion times 1", hoursBy("hours 9;hours " + BILLION + "*1/1000/1000/100"), 10);
         due("1001 times a million", hoursBy("hours 9;hours [1000+1]*1000*1000/1000/1000/100"), 9);
         due("-1000 times a million", hoursBy("hours 9;hours 20+[0-1000]*1000*1000/1000/1000/100"), 10);
         due("-1001 times a million", hoursBy("hours 9;hours 20+[0-1000-1]*1000*1000"), 9);
         due("1,000,000,007 is 7 by no wrap", hoursBy("hours 9;hours 1000*1000*1000+7"), 9);
         due("2 to the 32nd is not 0", hoursBy("hours 9;hours [65*1000+536]*[65*1000+536]"), 9);
         due("2 to the 64th is not 0", hoursBy("hours 9;hours 256*256*256*256*256*256*256*256"), 9);
-        due("a billion times a billion", hoursBy("hours 9;hours [" + billion + "]*[" + billion + "]"), 9);
-        due("0 behind what is BROKEN", hoursBy("hours 9;hours " + billion + "*2*0+5"), 9);
-        due("on the way alone", hoursBy("hours 9;hours [" + billion + "+1]-" + billion), 9);
+        due("a billion times a billion", hoursBy("hours 9;hours [" + BILLION + "]*[" + BILLION + "]"), 9);
+        due("0 behind what is BROKEN", hoursBy("hours 9;hours " + BILLION + "*2*0+5"), 9);
+        due("on the way alone", hoursBy("hours 9;hours [" + BILLION + "+1]-" + BILLION), 9);
         sentence("Beyond 1,000,000,000 either way, a TEST is BROKEN");
-        due("a billion", hoursBy("hours 9 if " + billion + ">0"), 9);
-        due("a billion and 1", hoursBy("hours 9 if " + billion + "+1>0"), 4);
-        due("not of a billion and 1", hoursBy("hours 9 if not " + billion + "+1<0"), 4);
-        due("a billion below 0", hoursBy("hours 9 if 0>0-" + billion), 9);
-        due("a billion and 1 below 0", hoursBy("hours 9 if 0>0-" + billion + "-1"), 4);
+        due("a billion", hoursBy("hours 9 if " + BILLION + ">0"), 9);
+        due("a billion and 1", hoursBy("hours 9 if " + BILLION + "+1>0"), 4);
+        due("not of a billion and 1", hoursBy("hours 9 if not " + BILLION + "+1<0"), 4);
+        due("a billion below 0", hoursBy("hours 9 if 0>0-" + BILLION), 9);
+        due("a billion and 1 below 0", hoursBy("hours 9 if 0>0-" + BILLION + "-1"), 4);
+    }
+
+    private static void dividedByZero() {
         sentence("divided by 0, a SUM, a TEST is BROKEN");
         due("5/0", hoursBy("hours 9;hours 5/0"), 9);
         due("0/0", hoursBy("hours 9;hours 0/0"), 9);
@@ -961,6 +1074,9 @@ public final class EdgesTest {
         due("a BROKEN test, a good sum", hoursBy("hours 9;hours 5 if 5/0=5"), 9);
         due("a test that is not so, a BROKEN sum", hoursBy("hours 9;hours 5/0 if 1=2"), 9);
         due("both good", hoursBy("hours 9;hours 5/1 if 5/1=5"), 5);
+    }
+
+    private static void whatCanStillMatter() {
         sentence("\"or\", \"and\" ask what stands behind only if it can still matter");
         due("so or BROKEN", hoursBy("hours 9;hours 5 if 1=1 or 1/0=0"), 5);
         due("not so or BROKEN", hoursBy("hours 9;hours 5 if 1=2 or 1/0=0"), 9);
@@ -1145,6 +1261,13 @@ public final class EdgesTest {
     }
 
     private static void leaning() {
+        likedInTheBowl();
+        leanOfAHundred();
+        aLikedOneFirst();
+        theOthersByLot();
+    }
+
+    private static void likedInTheBowl() {
         sentence("If there are LIKED ones in the BOWL");
         ExamSlips x = knowing(oneOf(2), 2);
         x.terms(LEAN, 100);
@@ -1179,6 +1302,9 @@ public final class EdgesTest {
         duePass(y, 0, 1);
         y.know(0, 2, 1);
         duePass(y, 1, 1);
+    }
+
+    private static void leanOfAHundred() {
         sentence("with LEAN of a hundred: 0 .. 100");
         ExamSlips z = knowing(oneOf(2), 2);
         z.know(0, 1, 1);
@@ -1194,6 +1320,9 @@ public final class EdgesTest {
         dueOdds("right 0", z.right(0, 0), z.right(0, 1), 1, 4);
         dueOdds("right 1", z.right(1, 0), z.right(1, 1), 3, 4);
         dueOdds("mean", z.mean(0), z.mean(1), 3, 4);
+    }
+
+    private static void aLikedOneFirst() {
         sentence("one of these, by lot, lies there first");
         ExamSlips two = knowing(oneOf(3), 2);
         two.know(0, 1, 1);
@@ -1207,6 +1336,9 @@ public final class EdgesTest {
         two.know(2, 1, 1);
         // all are liked: 1, 1/2 and 1 of three
         duePass(two, 5, 6);
+    }
+
+    private static void theOthersByLot() {
         sentence("and the others come by lot out of all the rest");
         ExamSlips rest = knowing(set(of(3), 2, 2, 2), 2, 2);
         rest.know(0, 1, 1);
@@ -1238,6 +1370,13 @@ public final class EdgesTest {
     }
 
     private static void answersAndOdds() {
+        answersOfThose();
+        greatestChances();
+        wantedOnes();
+        rightAndMean();
+    }
+
+    private static void answersOfThose() {
         sentence("One answers ANSWERS of those that lie (all, if there are fewer)");
         ExamSlips x = knowing(set(of(3), 3, 3, 1), 1, 1, 1);
         dueOdds("right 3 of 3", x.right(3, 0), x.right(3, 1), 1, 8);
@@ -1256,6 +1395,9 @@ public final class EdgesTest {
         x.know(1, 2, 1);
         dueOdds("right 2 of 1 that lies", x.right(2, 0), x.right(2, 1), 0, 1);
         dueOdds("mean of 1 that lies", x.mean(0), x.mean(1), 1, 2);
+    }
+
+    private static void greatestChances() {
         sentence("those with the greatest CHANCES");
         ExamSlips y = knowing(set(of(3), 3, 1, 1), 0, 1, 2);
         duePass(y, 1, 1);
@@ -1283,6 +1425,9 @@ public final class EdgesTest {
         duePass(z, 1, 10_000);
         by(z, "chance 99");
         duePass(z, 9801, 10_000);
+    }
+
+    private static void wantedOnes() {
         sentence("One PASSES with at least WANTED RIGHT ones");
         ExamSlips three = knowing(set(of(3), 3, 3, 1), 2, 1, 1);
         duePass(three, 1, 1);
@@ -1306,17 +1451,21 @@ public final class EdgesTest {
         dueOdds("right 2", all.right(2, 0), all.right(2, 1), 0, 1);
         dueOdds("right 3", all.right(3, 0), all.right(3, 1), 1, 1);
         dueOdds("mean", all.mean(0), all.mean(1), 3, 1);
+    }
+
+    private static void rightAndMean() {
         sentence("15. right: just so many RIGHT ones (0 .. 3): likewise. NONE");
-        due("right(-1, 0)", all.right(-1, 0), NONE);
-        due("right(4, 0)", all.right(4, 0), NONE);
-        due("right(0, -1)", all.right(0, -1), NONE);
-        due("right(0, 2)", all.right(0, 2), NONE);
-        due("right(most, 1)", all.right(MOST, 1), NONE);
+        ExamSlips x = of(3);
+        due("right(-1, 0)", x.right(-1, 0), NONE);
+        due("right(4, 0)", x.right(4, 0), NONE);
+        due("right(0, -1)", x.right(0, -1), NONE);
+        due("right(0, 2)", x.right(0, 2), NONE);
+        due("right(most, 1)", x.right(MOST, 1), NONE);
         sentence("16. mean: as a fraction in lowest terms: likewise. NONE");
-        due("mean(-1)", all.mean(-1), NONE);
-        due("mean(2)", all.mean(2), NONE);
         // 1 and 1/2 of one each, of four one lies there: 3/2 of 4
         ExamSlips mean = knowing(oneOf(4), 2, 1);
+        due("mean(-1)", mean.mean(-1), NONE);
+        due("mean(2)", mean.mean(2), NONE);
         dueOdds("mean", mean.mean(0), mean.mean(1), 3, 8);
         // 3 of 4 lie there, all are answered: three quarters of 3/2
         mean.terms(LIE, 3);
@@ -1328,6 +1477,13 @@ public final class EdgesTest {
     }
 
     private static void sureSafeWorth() {
+        sureOfSoMany();
+        safe();
+        worthOfQuestions();
+        worthThatLeans();
+    }
+
+    private static void sureOfSoMany() {
         sentence("17. sure: if so many (0 .. 20) .. NONE (more than there are)");
         ExamSlips x = knowing(oneOf(20), 2, 2, 1);
         dueOdds("sure 0", x.sure(0, 0), x.sure(0, 1), 0, 1);
@@ -1353,6 +1509,9 @@ public final class EdgesTest {
         dueOdds("sure 0", some.sure(0, 0), some.sure(0, 1), 1, 10);
         dueOdds("sure 1", some.sure(1, 0), some.sure(1, 1), 7, 20);
         dueOdds("sure 2", some.sure(2, 0), some.sure(2, 1), 3, 5);
+    }
+
+    private static void safe() {
         sentence("18. safe: the fewest known well with which one can't fail so; NONE");
         ExamSlips y = set(of(6), 3, 2, 2);
         // of any 3 that lie there 1 at most may not be known
@@ -1372,6 +1531,9 @@ public final class EdgesTest {
         due("safe(), LEAN 0", liked.safe(), 2);
         liked.know(0, 2, 1);
         due("safe(), in the BOWL", liked.safe(), 1);
+    }
+
+    private static void worthOfQuestions() {
         sentence("WORTH: ODDS to PASS .. well less those if it were not known, in millionths of each, cut");
         ExamSlips z = knowing(oneOf(3), 0, 2, 1);
         // 5/6 and 3/6
@@ -1386,6 +1548,9 @@ public final class EdgesTest {
         due("of nothing", by(oneOf(1), "chance 50").worth(0), 0);
         due("below 0", by(oneOf(1), "chance 100-level*50").worth(0), -1_000_000);
         due("more wanted than answered", set(of(1), 1, 1, 2).worth(0), 0);
+    }
+
+    private static void worthThatLeans() {
         sentence("WORTH by a lot that leans");
         ExamSlips lean = oneOf(2);
         lean.know(0, 1, 1);
@@ -1393,12 +1558,14 @@ public final class EdgesTest {
         due("worth(0)", lean.worth(0), 750_000);
         due("worth(1)", lean.worth(1), 250_000);
         sentence("19. worth: (0 of one that is OUT). NOTHING (-10,000,000) without");
-        z.know(0, 2, 1);
-        due("worth(0)", z.worth(0), 0);
-        due("worth(-1)", z.worth(-1), NOTHING);
-        due("worth(3)", z.worth(3), NOTHING);
-        due("worth(least)", z.worth(LEAST), NOTHING);
-        due("worth(most)", z.worth(MOST), NOTHING);
+        ExamSlips x = oneOf(3);
+        due("worth(0)", x.worth(0), 333_333);
+        x.know(0, 2, 1);
+        due("worth(0)", x.worth(0), 0);
+        due("worth(-1)", x.worth(-1), NOTHING);
+        due("worth(3)", x.worth(3), NOTHING);
+        due("worth(least)", x.worth(LEAST), NOTHING);
+        due("worth(most)", x.worth(MOST), NOTHING);
     }
 
     /** A question of each king; one lies there, one is answered, one right is wanted. */
@@ -1411,6 +1578,11 @@ public final class EdgesTest {
     }
 
     private static void schemes() {
+        levelsOfAScheme();
+        helpInAScheme();
+    }
+
+    private static void levelsOfAScheme() {
         sentence("A SCHEME gives each QUESTION in the BOWL a LEVEL 0 .. 2, from LEVEL 0");
         ExamSlips x = knowing(oneOf(2), 2, 1);
         // 4 hours a LESSON, whatever is known now
@@ -1441,9 +1613,15 @@ public final class EdgesTest {
         out.know(0, 0, 2);
         out.know(0, 2, 1);
         dueBest(out, 400, 1, 1, 40);
+    }
+
+    private static void helpInAScheme() {
         sentence("the hours of all LESSONS: helped at LEVEL 1 alone, at LEVEL 2 alone");
         dueBest(kings("hours 9;hours 2 if helped=1 and level=1", 3, 3), 400, 1, 1, 18 + 11);
         dueBest(kings("hours 9;hours 3 if helped=1 and level=2", 3, 3), 400, 1, 1, 18 + 12);
+        // half by 5, or by 3 if helped; well by 10 in any case
+        dueBest(kings("hours 5-helped*2;hours 5+helped*2 if level=2", 3, 3), 8, 1, 2, 8);
+        dueBest(kings("hours 5-helped*2;hours 5+helped*2 if level=2", 3, 3), 7, 1, 4, 5);
         sentence("helped: a LESSON may take more then");
         dueBest(kings("hours 2+helped*3", 3, 3), 400, 1, 1, 4 + 10);
         // 0 not and 1 well are 4, 0 half and 1 half are 7
@@ -1454,6 +1632,15 @@ public final class EdgesTest {
     }
 
     private static void bestAndFirst() {
+        bestForHours();
+        bestOfManyKinds();
+        bestIsOfNothingKnown();
+        firstOfTheBest();
+        levelsOfTheFirst();
+        bestIsAsThingsAre();
+    }
+
+    private static void bestForHours() {
         sentence("BEST for so many hours (0 .. 400)");
         ExamSlips x = oneOf(3);
         dueBest(x, 0, 0, 1, 0);
@@ -1468,16 +1655,48 @@ public final class EdgesTest {
         due("best(8, 3)", x.best(8, 3), NONE);
         due("best(8, most)", x.best(8, MOST), NONE);
         sentence("of SCHEMES that take no more");
-        dueBest(x, 3, 0, 1, 0);
-        dueBest(x, 4, 1, 6, 4);
-        dueBest(x, 7, 1, 6, 4);
-        dueBest(x, 8, 1, 3, 8);
-        dueBest(x, 23, 5, 6, 20);
-        dueBest(x, 24, 1, 1, 24);
+        ExamSlips y = oneOf(3);
+        dueBest(y, 3, 0, 1, 0);
+        dueBest(y, 4, 1, 6, 4);
+        dueBest(y, 7, 1, 6, 4);
+        dueBest(y, 8, 1, 3, 8);
+        dueBest(y, 23, 5, 6, 20);
+        dueBest(y, 24, 1, 1, 24);
         sentence("BEST: hours up to 400 are asked of");
         ExamSlips long400 = by(oneOf(10), "hours 20");
         dueBest(long400, 399, 19, 20, 380);
         dueBest(long400, 400, 1, 1, 400);
+    }
+
+    private static void bestOfManyKinds() {
+        sentence("BEST: LIE 10 of 20");
+        ExamSlips ten = by(set(of(20), 10, 1, 1), "hours 1");
+        // one well: it lies there by a half; 10 well and 1 half: only one set of 184,756 has none well
+        dueBest(ten, 2, 1, 2, 2);
+        dueBest(ten, 20, 184_755, 184_756, 20);
+        dueBest(ten, 21, 369_511, 369_512, 21);
+        dueBest(ten, 400, 1, 1, 22);
+        sentence("BEST: ANSWERS 1 .. 3, WANTED 1 .. 3");
+        dueBest(set(of(3), 3, 3, 3), 400, 1, 1, 24);
+        dueBest(set(of(3), 3, 3, 2), 400, 1, 1, 16);
+        dueBest(set(of(3), 3, 3, 1), 400, 1, 1, 8);
+        dueBest(set(of(3), 3, 3, 3), 12, 1, 8, 12);
+        dueBest(set(of(3), 3, 2, 3), 400, 0, 1, 0);
+        sentence("BEST: answered are all that lie there, if there are fewer than ANSWERS");
+        ExamSlips fewer = by(set(of(2), 2, 3, 2), "chance 50;chance 70 if level=1;chance 100 if level=2");
+        dueBest(fewer, 0, 1, 4, 0);
+        dueBest(fewer, 4, 7, 20, 4);
+        dueBest(fewer, 8, 1, 2, 8);
+        dueBest(fewer, 12, 7, 10, 12);
+        sentence("BEST: two half are two first LESSONS");
+        ExamSlips first = by(set(of(2), 2, 2, 2), "hours 10;hours 1 if level=2");
+        dueBest(first, 19, 0, 1, 0);
+        dueBest(first, 20, 1, 4, 20);
+        dueBest(first, 21, 1, 2, 21);
+        dueBest(first, 22, 1, 1, 22);
+    }
+
+    private static void bestIsOfNothingKnown() {
         sentence("if LEAN is 0 and all others are not known");
         ExamSlips y = knowing(oneOf(2), 2, 2);
         y.know(0, 1, 1);
@@ -1499,6 +1718,9 @@ public final class EdgesTest {
         ExamSlips w = by(oneOf(2), "hours 2;hours 10 if level=2");
         dueBest(w, 12, 1, 2, 4);
         dueLevels(w, 12, 1, 1);
+    }
+
+    private static void firstOfTheBest() {
         sentence("the FIRST of these as a row of LEVELS by numbers, lower ones ahead");
         ExamSlips v = oneOf(3);
         dueLevels(v, 0, 0, 0, 0);
@@ -1523,7 +1745,11 @@ public final class EdgesTest {
         dueLevels(help, 8, 1, 2, 2);
         dueLevels(help, 5, 0, 1, 1);
         dueLevels(help, 4, 0, 0, 1);
+    }
+
+    private static void levelsOfTheFirst() {
         sentence("21. level: for so many hours. NONE");
+        ExamSlips v = oneOf(3);
         due("level(-1, 0)", v.level(-1, 0), NONE);
         due("level(401, 0)", v.level(401, 0), NONE);
         due("level(least, 0)", v.level(LEAST, 0), NONE);
@@ -1535,7 +1761,13 @@ public final class EdgesTest {
         v.know(1, 2, 1);
         dueLevels(v, 8, 0, NONE, 2);
         dueLevels(v, 16, 2, NONE, 2);
+    }
+
+    private static void bestIsAsThingsAre() {
         sentence("BEST is as things are now");
+        ExamSlips v = oneOf(3);
+        v.know(1, 2, 1);
+        dueLevels(v, 16, 2, NONE, 2);
         v.know(1, 2, 0);
         dueLevels(v, 16, 0, 2, 2);
         v.question(0, 1);
@@ -1574,6 +1806,11 @@ public final class EdgesTest {
         due("enough(38)", x.enough(38), 16);
         due("enough(75)", x.enough(75), 24);
         due("enough(76)", x.enough(76), 28);
+        // 1 less 71 of a hundred squared, 1 less 9 of a hundred squared
+        due("enough(49) of 49.59", by(set(of(2), 2, 2, 1), "chance 29").enough(49), 0);
+        due("enough(50) of 49.59", by(set(of(2), 2, 2, 1), "chance 29").enough(50), NONE);
+        due("enough(99) of 99.19", by(set(of(2), 2, 2, 1), "chance 91").enough(99), 0);
+        due("enough(100) of 99.19", by(set(of(2), 2, 2, 1), "chance 91").enough(100), NONE);
         sentence("22. NONE: no hours up to 400 are");
         ExamSlips y = by(oneOf(20), "hours 20");
         // 20 hours each 40th part
@@ -1605,6 +1842,12 @@ public final class EdgesTest {
     }
 
     private static void lessonsOfADiary() {
+        hundredTwentyLessons();
+        howADiaryBegins();
+        inOrderAsTold();
+    }
+
+    private static void hundredTwentyLessons() {
         sentence("LESSONS told for DAYS, 120 at most");
         ExamSlips x = of(2);
         for (int i = 1; i <= 120; i++) {
@@ -1632,6 +1875,9 @@ public final class EdgesTest {
         due("lesson(0, -1)", x.lesson(0, -1), -2);
         due("lesson(0, 2)", x.lesson(0, 2), -2);
         due("lesson(0, most)", x.lesson(0, MOST), -2);
+    }
+
+    private static void howADiaryBegins() {
         sentence("By it all begin as not known");
         ExamSlips y = knowing(of(1), 2);
         due("behind(0, 0)", y.behind(0, 0), 0);
@@ -1648,6 +1894,9 @@ public final class EdgesTest {
         due("behind(0, NONE)", z.behind(0, NONE), 0);
         z.use(NONE);
         due("behind(0, NONE)", z.behind(0, NONE), 4);
+    }
+
+    private static void inOrderAsTold() {
         sentence("in order as told of each DAY");
         ExamSlips w = by(of(3), "hours 2;hours 5 if question=1");
         w.lesson(1, 0);
@@ -1665,6 +1914,12 @@ public final class EdgesTest {
     }
 
     private static void hoursOfADay() {
+        theFirstThatDoesNotFit();
+        allBehindIt();
+        oneLevelMore();
+    }
+
+    private static void theFirstThatDoesNotFit() {
         sentence("The first LESSON that takes more than is left of the day's HOURS .. DROPPED");
         ExamSlips x = days(of(3), 2, 8);
         x.lesson(0, 0);
@@ -1689,6 +1944,9 @@ public final class EdgesTest {
         due("behind(0, NONE)", x.behind(0, NONE), 16);
         x.lesson(0, 0);
         due("judge(0), AGAIN of none left", x.judge(0), 1);
+    }
+
+    private static void allBehindIt() {
         sentence("and all behind it on that DAY, are DROPPED");
         ExamSlips y = by(days(of(2), 3, 5), "hours 2;hours 4 if question=1");
         y.lesson(1, 0);
@@ -1714,6 +1972,9 @@ public final class EdgesTest {
         sentence("26. judge: what 0 .. 2. NONE");
         due("judge(-1)", y.judge(-1), NONE);
         due("judge(3)", y.judge(3), NONE);
+    }
+
+    private static void oneLevelMore() {
         sentence("the QUESTION's LEVEL is 1 more (at 2: AGAIN)");
         ExamSlips z = by(days(of(1), 1, 16), "hours 3;hours 5 if level=2;hours 9 if level=3");
         z.lesson(0, 0);
@@ -1734,52 +1995,81 @@ public final class EdgesTest {
     }
 
     private static void helpInADiary() {
+        helpedByAnotherOne();
+        helpedByWhatIsKnownThen();
+        helpedAmongTwenty();
+    }
+
+    private static void helpedByAnotherOne() {
         sentence("helped: another one of its KING (not 0) has a LEVEL above 0 then");
-        String text = "hours 5-helped*3;keeps 2";
-        ExamSlips x = days(kings(text, 3, 3), 10, 16);
+        ExamSlips x = days(kings(HELPED, 3, 3), 10, 16);
         x.lesson(0, 0);
         x.lesson(0, 0);
         due("itself is not another one", x.behind(0, NONE), 10);
         x.lesson(0, 1);
         due("helped by what was learned that day", x.behind(0, NONE), 12);
-        ExamSlips higher = days(kings(text, 3, 3), 10, 16);
+        ExamSlips higher = days(kings(HELPED, 3, 3), 10, 16);
         higher.lesson(0, 1);
         higher.lesson(1, 0);
         due("helped by a higher number", higher.behind(1, NONE), 2);
-        ExamSlips none = days(kings(text, 0, 0), 10, 16);
+        ExamSlips none = days(kings(HELPED, 0, 0), 10, 16);
         none.lesson(0, 0);
         none.lesson(0, 1);
         due("KING 0", none.behind(0, NONE), 10);
-        ExamSlips other = days(kings(text, 3, 4), 10, 16);
+        ExamSlips other = days(kings(HELPED, 3, 4), 10, 16);
         other.lesson(0, 0);
         other.lesson(0, 1);
         due("another KING", other.behind(0, NONE), 10);
-        ExamSlips out = days(kings(text, 3, 3), 10, 16);
+        ExamSlips out = days(kings(HELPED, 3, 3), 10, 16);
         out.know(0, 2, 1);
         out.lesson(0, 0);
         out.lesson(0, 1);
         due("one that is OUT", out.behind(0, NONE), 7);
+    }
+
+    private static void helpedByWhatIsKnownThen() {
         sentence("helped: .. has a LEVEL above 0 then: not what is KNOWN else");
-        ExamSlips known = days(kings(text, 3, 3), 10, 16);
+        ExamSlips known = days(kings(HELPED, 3, 3), 10, 16);
         known.know(0, 0, 2);
         known.lesson(0, 1);
         due("behind(0, NONE)", known.behind(0, NONE), 5);
         sentence("helped: .. has a LEVEL above 0 then: not what was forgotten");
-        ExamSlips forgotten = days(kings(text, 3, 3), 10, 16);
+        ExamSlips forgotten = days(kings(HELPED, 3, 3), 10, 16);
         forgotten.lesson(0, 0);
         forgotten.lesson(2, 1);
         forgotten.lesson(3, 1);
         due("behind(2, NONE), it falls at the end of day 2", forgotten.behind(2, NONE), 2);
         due("behind(3, NONE)", forgotten.behind(3, NONE), 5);
         sentence("helped: .. has a LEVEL above 0 then: not what was DROPPED");
-        ExamSlips dropped = days(kings(text, 3, 3), 10, 4);
+        ExamSlips dropped = days(kings(HELPED, 3, 3), 10, 4);
         dropped.lesson(0, 0);
         dropped.lesson(1, 1);
         due("behind(1, NONE)", dropped.behind(1, NONE), 0);
         due("judge(0)", dropped.judge(0), 2);
     }
 
+    private static void helpedAmongTwenty() {
+        sentence("helped: another one of its KING: of 20 QUESTIONS");
+        ExamSlips many = new ExamSlips();
+        for (int q = 0; q < 20; q++) {
+            many.question(q < 18 ? 1 : 2, 10);
+        }
+        by(days(many, 10, 16), HELPED);
+        many.lesson(0, 0);
+        many.lesson(0, 19);
+        due("behind(0, NONE)", many.behind(0, NONE), 10);
+        many.lesson(0, 18);
+        due("behind(0, NONE)", many.behind(0, NONE), 12);
+        due("behind(0, 19)", many.behind(0, 19), 1);
+    }
+
     private static void askingTheDiary() {
+        behindADay();
+        lessonsBeyondTheDays();
+        learning();
+    }
+
+    private static void behindADay() {
         sentence("25. behind: a DAY (0 .. DAYS less 1). NONE");
         ExamSlips x = of(1);
         due("behind(-1, 0)", x.behind(-1, 0), NONE);
@@ -1800,6 +2090,9 @@ public final class EdgesTest {
         due("behind(0, 1)", x.behind(0, 1), NONE);
         due("behind(0, least)", x.behind(0, LEAST), NONE);
         due("behind(0, most)", x.behind(0, MOST), NONE);
+    }
+
+    private static void lessonsBeyondTheDays() {
         sentence("DAYS 1 .. 20: a LESSON on a DAY beyond them is not learned");
         ExamSlips y = of(1);
         y.lesson(19, 0);
@@ -1812,6 +2105,9 @@ public final class EdgesTest {
         due("judge(1)", y.judge(1), 19);
         y.terms(DAYS, 19);
         due("judge(0) of 19 days", y.judge(0), 0);
+    }
+
+    private static void learning() {
         sentence("27. learn: KNOWN become the LEVELS behind the last DAY");
         ExamSlips z = knowing(days(of(4), 2, 16), 0, 2, 2, 2);
         z.know(2, 2, 1);
@@ -1834,6 +2130,12 @@ public final class EdgesTest {
     }
 
     private static void forgetting() {
+        keptForDays();
+        fallsAgain();
+        keptToTheLastDay();
+    }
+
+    private static void keptForDays() {
         sentence("that had no LESSON for as many days as it keeps (today's: 0 days) has 1 less");
         ExamSlips x = by(of(1), "keeps 3");
         x.lesson(1, 0);
@@ -1859,6 +2161,9 @@ public final class EdgesTest {
         dropped.lesson(1, 0);
         dueDays(dropped, 0, 1, 1, 0);
         dueDays(dropped, 1, 0, 1, 1, 0);
+    }
+
+    private static void fallsAgain() {
         sentence("has 1 less, and its days begin again");
         ExamSlips twice = by(of(1), "hours 1;keeps 2;keeps 3 if level=2");
         twice.lesson(0, 0);
@@ -1874,6 +2179,9 @@ public final class EdgesTest {
         never.lesson(0, 1);
         dueDays(never, 0, 0, 0, 0);
         due("judge(2)", never.judge(2), 1);
+    }
+
+    private static void keptToTheLastDay() {
         sentence("keeps 1 .. 30 days, of 20 days: 19 and 20");
         ExamSlips last = by(days(of(1), 20, 6), "keeps 19");
         last.lesson(0, 0);
@@ -1899,6 +2207,14 @@ public final class EdgesTest {
     }
 
     private static void backward() {
+        laidFromTheLastDay();
+        laidOverManyHours();
+        orderOfLaying();
+        leftOut();
+        askingBackward();
+    }
+
+    private static void laidFromTheLastDay() {
         sentence("each on the DAY one is at, from the last one on; when there is not as much left of it");
         ExamSlips x = days(oneOf(2), 2, 8);
         // 16 hours: both well; 4 and 4 of 8
@@ -1924,6 +2240,28 @@ public final class EdgesTest {
         dueLaid(x, 0, 19, 19);
         dueLaid(x, 1, 19, 19);
         due("backward(NONE, 2)", x.backward(NONE, 2), 19);
+    }
+
+    private static void laidOverManyHours() {
+        sentence("for all DAYS' HOURS together: 320 at most");
+        ExamSlips all = by(days(oneOf(20), 20, 16), "hours 8");
+        for (int q = 0; q < 20; q++) {
+            dueLaid(all, q, 19 - q, 19 - q);
+        }
+        due("backward(NONE, 1)", all.backward(NONE, 1), 0);
+        by(all, "hours 9");
+        // 35 LESSONS are in 320 hours: 2 half, 3 .. 19 well; but one a day alone
+        dueLaid(all, 3, 18, 19);
+        dueLaid(all, 12, 0, 1);
+        dueLaid(all, 13, NONE, NONE);
+        dueLaid(all, 2, NONE, NONE);
+        due("backward(NONE, 1)", all.backward(NONE, 1), 15);
+        sentence("BACKWARD: what a LESSON takes, day 0");
+        dueLaid(by(days(oneOf(1), 1, 6), "hours 3+day"), 0, 0, 0);
+        dueLaid(by(days(oneOf(1), 2, 3), "hours 3+day"), 0, 0, 1);
+    }
+
+    private static void orderOfLaying() {
         sentence("those with LEVEL 2, then those with 1, by numbers, the last one first");
         ExamSlips y = by(days(oneOf(4), 3, 2), "hours 1;hours 3 if question=3 and level=2;hours 3 if question=1 and level=2");
         // 6 hours: 0 and 2 well, 1 and 3 half
@@ -1943,6 +2281,9 @@ public final class EdgesTest {
         // 15 hours: both well; 4 on day 2, 4 on day 1, 1 and 0 left: then 1, and 1 on day 0
         dueLaid(z, 0, 1, 2);
         dueLaid(z, 1, 0, 1);
+    }
+
+    private static void leftOut() {
         sentence("one that fits on none is LEFT OUT, and all behind it");
         ExamSlips w = by(days(oneOf(3), 3, 5), "hours 2;hours 6 if question=0;hours 20 if question=2 and level=2");
         dueLevels(w, 15, 1, 2, 1);
@@ -1967,8 +2308,11 @@ public final class EdgesTest {
         dueLaid(u, 0, 0, 1);
         dueLaid(u, 1, NONE, 0);
         due("backward(NONE, 1)", u.backward(NONE, 1), 1);
+    }
+
+    private static void askingBackward() {
         sentence("28. backward: of a QUESTION to a LEVEL 1, 2 (NONE: LEFT OUT, or there is none). NONE");
-        days(x, 19, 6);
+        ExamSlips x = days(oneOf(2), 19, 6);
         due("backward(0, 0)", x.backward(0, 0), NONE);
         due("backward(0, 3)", x.backward(0, 3), NONE);
         due("backward(NONE, 0)", x.backward(NONE, 0), NONE);
@@ -2003,6 +2347,14 @@ public final class EdgesTest {
     }
 
     private static void friends() {
+        hoursOfFriends();
+        eachLearnsSomeWell();
+        asManyAsCanBe();
+        noneAndAll();
+        shareIsAsThingsAre();
+    }
+
+    private static void hoursOfFriends() {
         sentence("29. friend: FRIENDS 0 .. 2. -1");
         ExamSlips x = of(2);
         due("friend(-1, 0)", x.friend(-1, 0), -1);
@@ -2018,6 +2370,9 @@ public final class EdgesTest {
         due("friend(0, 99)", x.friend(0, 99), 0);
         due("friend(0, 0)", x.friend(0, 0), 99);
         due("friend(0, 0)", x.friend(0, 0), 0);
+    }
+
+    private static void eachLearnsSomeWell() {
         sentence("each learns some well (LESSONS from LEVEL 0, helped never)");
         dueShare(friendsOf(of(2), 8), 1, 0, NONE);
         dueShare(friendsOf(of(2), 7), 0, NONE, NONE);
@@ -2027,8 +2382,13 @@ public final class EdgesTest {
         dueShare(friendsOf(kings("hours 9-helped*8", 1, 1), 35), 1, 0, NONE);
         dueShare(friendsOf(by(of(1), "hours 3;hours 5 if level=2"), 8), 1, 0);
         dueShare(friendsOf(by(of(1), "hours 3;hours 5 if level=2"), 7), 0, NONE);
+        dueShare(friendsOf(by(of(1), "hours 5;hours 3 if level=1"), 8), 1, 0);
+        dueShare(friendsOf(by(of(1), "hours 5;hours 3 if level=1"), 7), 0, NONE);
         dueShare(friendsOf(by(of(1), "hours 3+day*9"), 6), 1, 0);
         dueShare(friendsOf(knowing(of(1), 2), 7), 0, NONE);
+    }
+
+    private static void asManyAsCanBe() {
         sentence("no QUESTION twice, as many together as can be");
         dueShare(friendsOf(of(2), 8, 8, 8), 2, 0, 1);
         // 6, 10 and 4 hours: a good row must leave 10 together
@@ -2037,6 +2397,12 @@ public final class EdgesTest {
         dueShare(friendsOf(y, 10, 9), 2, 0, NONE, 0);
         dueShare(friendsOf(y, 9, 11), 2, 0, 1, NONE);
         dueShare(friendsOf(y, 9, 4, 6), 2, 0, NONE, 1);
+        dueShare(friendsOf(y, 4, 0, 0), 1, NONE, NONE, 0);
+        dueShare(friendsOf(y, 3, 3, 3), 0, NONE, NONE, NONE);
+        dueShare(friendsOf(by(of(2), "hours 5-question*3"), 4), 1, NONE, 0);
+        dueShare(friendsOf(by(of(2), "hours 5-question*3"), 3), 0, NONE, NONE);
+        dueShare(friendsOf(by(of(4), "hours 9-question*2"), 6, 10), 2, NONE, NONE, 1, 0);
+        dueShare(friendsOf(by(of(3), "hours 3;hours 7 if question=1;hours 5 if question=2"), 16), 2, 0, NONE, 0);
         sentence("as many together as can be: packed without a gap");
         ExamSlips six = by(of(6), "hours 3;hours 2 if question>2");
         dueShare(friendsOf(six, 10, 10, 10), 6, 0, 1, 2, 0, 1, 2);
@@ -2050,6 +2416,9 @@ public final class EdgesTest {
         dueShare(friendsOf(y, 6, 10, 0), 2, 0, 1, NONE);
         // 0 could go to 0, but then 1 finds no room: 10 for 1, 6 and 4 are left
         dueShare(friendsOf(y, 10, 6, 4), 3, 1, 0, 2);
+    }
+
+    private static void noneAndAll() {
         sentence("HOURS 0 .. 99: none of them, all of them");
         dueShare(of(3), 0, NONE, NONE, NONE);
         dueShare(friendsOf(by(of(12), "hours 20"), 99, 99, 99), 6, 0, 0, 1, 1, 2, 2,
@@ -2068,6 +2437,9 @@ public final class EdgesTest {
         due("share(-2)", out.share(-2), NONE);
         due("share(least)", out.share(LEAST), NONE);
         due("share(most)", out.share(MOST), NONE);
+    }
+
+    private static void shareIsAsThingsAre() {
         sentence("SHARE is as things are now");
         ExamSlips now = friendsOf(of(2), 8);
         dueShare(now, 1, 0, NONE);
@@ -2082,6 +2454,11 @@ public final class EdgesTest {
     }
 
     private static void ill() {
+        daysAndHoursIll();
+        bestOfDaysLeft();
+    }
+
+    private static void daysAndHoursIll() {
         sentence("ILL: of so many days (0 .. 3)");
         ExamSlips x = oneOf(2);
         due("ill(-1, 8)", x.ill(-1, 8), NONE);
@@ -2113,6 +2490,9 @@ public final class EdgesTest {
         due("ill(1, 100) by 99", x.ill(1, 100), 10_000);
         x.terms(ILL, 1);
         due("ill(1, 100) by 1", x.ill(1, 100), 990_000);
+    }
+
+    private static void bestOfDaysLeft() {
         sentence("ILL: BEST for the hours of those that are left, all together");
         ExamSlips y = by(oneOf(1), "hours 20;chance 10*level;chance 90 if level=2");
         y.terms(ILL, 50);
@@ -2141,6 +2521,11 @@ public final class EdgesTest {
     // Terms V: years, exams, images
 
     private static void years() {
+        fortyYears();
+        drawnInYears();
+    }
+
+    private static void fortyYears() {
         sentence("YEARS, 40 at most");
         ExamSlips x = of(2);
         for (int i = 1; i <= 40; i++) {
@@ -2167,6 +2552,9 @@ public final class EdgesTest {
         due("year of the 20th", all.year(1 << 19), 2);
         due("drawn(19, 0)", all.drawn(19, 0), 2);
         due("drawn(18, 0)", all.drawn(18, 0), 1);
+    }
+
+    private static void drawnInYears() {
         sentence("35. drawn: how many YEARS ago it was latest (1; 0 in the latest YEAR; NONE never). NONE");
         ExamSlips z = of(3);
         due("drawn(0, 0) without YEARS", z.drawn(0, 0), 0);
@@ -2195,6 +2583,12 @@ public final class EdgesTest {
     }
 
     private static void seldom() {
+        seldomByYears();
+        seldomOfForty();
+        manyLooks();
+    }
+
+    private static void seldomByYears() {
         sentence("SELDOM: in as many YEARS as there are: none");
         ExamSlips x = set(of(3), 2, 1, 1);
         due("seldom(0)", x.seldom(0), 1_000_000);
@@ -2228,6 +2622,9 @@ public final class EdgesTest {
         y.year(0);
         due("seldom(0), a 11th", y.seldom(0), 90_909);
         due("seldom(10)", y.seldom(10), 90_909);
+    }
+
+    private static void seldomOfForty() {
         sentence("SELDOM: of 40 YEARS, in millionths, cut");
         ExamSlips z = set(of(20), 10, 1, 1);
         for (int i = 0; i < 40; i++) {
@@ -2245,6 +2642,9 @@ public final class EdgesTest {
         due("seldom(4), LIE 1", z.seldom(4), 128_512);
         due("seldom(1), LIE 1", z.seldom(1), 999_999);
         due("seldom(0), LIE 1", z.seldom(0), 1_000_000);
+    }
+
+    private static void manyLooks() {
         sentence("With many looks counted in: the least of all QUESTIONS times as many as there are");
         ExamSlips w = oneOf(2);
         w.year(1);
@@ -2255,8 +2655,10 @@ public final class EdgesTest {
         v.year(2);
         v.year(2);
         due("seldom(NONE), the first is the least", v.seldom(NONE), 500_000);
-        due("seldom(NONE), times 3", x.seldom(NONE), 1_000_000);
-        x.terms(LIE, 2);
+        ExamSlips x = set(of(3), 2, 1, 1);
+        x.year(6);
+        x.year(6);
+        x.year(1);
         due("seldom(NONE), cut ahead of times 3", x.seldom(NONE), 3 * 259_259);
         sentence("With many looks counted in: 1,000,000 at most");
         ExamSlips u = oneOf(2);
@@ -2264,17 +2666,26 @@ public final class EdgesTest {
         due("seldom(NONE), twice a half", u.seldom(NONE), 1_000_000);
         u.question(0, 1);
         due("seldom(NONE), thrice two thirds", u.seldom(NONE), 1_000_000);
-        due("seldom(NONE), 20 times 128,512", z.seldom(NONE), 1_000_000);
+        ExamSlips z = oneOf(20);
+        z.year(0);
+        due("seldom(NONE), 20 times 950,000", z.seldom(NONE), 1_000_000);
         sentence("36. seldom: (question NONE; NONE without QUESTIONS). NONE");
         due("seldom(NONE) without QUESTIONS", new ExamSlips().seldom(NONE), NONE);
         due("seldom(0) without QUESTIONS", new ExamSlips().seldom(0), NONE);
-        due("seldom(-2)", u.seldom(-2), NONE);
-        due("seldom(3)", u.seldom(3), NONE);
-        due("seldom(least)", u.seldom(LEAST), NONE);
-        due("seldom(most)", u.seldom(MOST), NONE);
+        due("seldom(-2)", x.seldom(-2), NONE);
+        due("seldom(3)", x.seldom(3), NONE);
+        due("seldom(least)", x.seldom(LEAST), NONE);
+        due("seldom(most)", x.seldom(MOST), NONE);
     }
 
     private static void rows() {
+        intsOfTheTape();
+        notThere();
+        noRoomForYears();
+        lostOfTheLatest();
+    }
+
+    private static void intsOfTheTape() {
         sentence("33. row: -6 the TAPE is empty");
         ExamSlips x = of(3);
         due("row()", x.row(), -6);
@@ -2297,9 +2708,11 @@ public final class EdgesTest {
         due("drawn(11, 0)", all.drawn(11, 0), 2);
         due("drawn(2, 0)", all.drawn(2, 0), 2);
         due("drawn(0, 0)", all.drawn(0, 0), 1);
-        sentence("33. the TAPE is empty then");
-        due("count(6)", all.count(6), 0);
+        due("count(6): 33. the TAPE is empty then", all.count(6), 0);
         due("row()", all.row(), -6);
+    }
+
+    private static void notThere() {
         sentence("one with a QUESTION that is not there .. is LOST: none");
         ExamSlips y = of(3);
         y.feed(8, 7, -1, LEAST, MOST);
@@ -2316,6 +2729,9 @@ public final class EdgesTest {
             due("count(4) of " + bytes, z.count(4), bytes / 4);
             due("count(6) of " + bytes, z.count(6), 0);
         }
+    }
+
+    private static void noRoomForYears() {
         sentence("one for which there is no room .. is LOST: none");
         ExamSlips full = of(20);
         for (int i = 0; i < 38; i++) {
@@ -2330,19 +2746,26 @@ public final class EdgesTest {
         due("lost()", full.lost(), 5);
         due("status()", full.status(), 0);
         due("drawn(1, 0)", full.drawn(1, 0), 2);
+    }
+
+    private static void lostOfTheLatest() {
+        sentence("34. lost: in the latest row() that was not REFUSED");
         ExamSlips hundred = of(3);
         for (int i = 0; i < 20; i++) {
             hundred.feed(1, 2, 4, 3, 5);
         }
         due("row() of 400 bytes", hundred.row(), 40);
         due("lost()", hundred.lost(), 60);
-        sentence("34. lost: in the latest row() that was not REFUSED");
         due("row()", hundred.row(), -6);
         due("lost() behind a REFUSED one", hundred.lost(), 60);
         hundred.feed(1, 1, 1, 1, 1);
         hundred.end(4);
         hundred.row();
         due("lost()", hundred.lost(), 1);
+        ExamSlips y = of(1);
+        y.feed(1, 2, 1, 1, 1);
+        y.row();
+        due("lost()", y.lost(), 1);
         y.feed(1, 1, 1, 1, 1);
         y.row();
         due("lost(), none this time", y.lost(), 0);
@@ -2445,6 +2868,12 @@ public final class EdgesTest {
     }
 
     private static void leaningByDraws() {
+        whetherItLeans();
+        belowLean();
+        leastAndMostLean();
+    }
+
+    private static void whetherItLeans() {
         sentence("If the lot leans at all (LIKED ones, LIE less than all): a DRAW of 100");
         ExamSlips x = set(of(4), 2, 3, 2);
         x.know(0, 1, 1);
@@ -2467,7 +2896,11 @@ public final class EdgesTest {
         all.question(0, 1);
         // 0 of one LIKED, 1 of 1, 2, behind a DRAW of 100; then 57 for 0
         dueTable(all, 0, 5, 5, 0);
+    }
+
+    private static void belowLean() {
         sentence("below LEAN a DRAW of the LIKED ones tells the first (by numbers)");
+        ExamSlips x = set(of(4), 2, 3, 2);
         x.know(0, 1, 1);
         x.terms(LEAN, 45);
         dueTable(x, 0, 6, 6, 0);
@@ -2486,6 +2919,9 @@ public final class EdgesTest {
         dueTable(x, 0, 10, 10, 0);
         x.terms(LIE, 1);
         dueTable(x, 0, 8, 8, 0);
+    }
+
+    private static void leastAndMostLean() {
         sentence("LEAN 0: none is below it, not even a DRAW of 0");
         ExamSlips none = knowing(set(of(2), 1, 1, 1), 2);
         none.know(0, 1, 1);
@@ -2528,6 +2964,9 @@ public final class EdgesTest {
         by(x, "chance 44");
         // 0: 45; 1: 41; 2: 89
         dueTable(x, 0, 7, 7, 2);
+        sentence("the greatest CHANCE: that of LEVEL 0, too");
+        ExamSlips zero = by(knowing(set(of(2), 8, 1, 1), 1, 0), "chance 20;chance 46 if level=0");
+        dueTable(zero, 0, 3, 2, 2);
         sentence("answered: all, if there are fewer");
         ExamSlips two = knowing(set(of(2), 8, 3, 3), 2, 2);
         dueTable(two, 0, 3, 3, 3);
@@ -2619,9 +3058,19 @@ public final class EdgesTest {
         imagesKeep();
         imagesDoNotKeep();
         imagesStay();
+        roomAgain();
     }
 
     private static void imagesKeep() {
+        imagesOfQuestions();
+        imagesOfTerms();
+        imagesOfPapers();
+        imagesOfDiaries();
+        imagesOfFriendsAndYears();
+        imagesAndWhatIsTold();
+    }
+
+    private static void imagesOfQuestions() {
         sentence("BACK to one all that it keeps is as it was then: QUESTIONS");
         ExamSlips x = new ExamSlips();
         x.image(1);
@@ -2649,6 +3098,9 @@ public final class EdgesTest {
                 due("of(" + q + ", " + what + ")", x.of(q, what), is[q][what]);
             }
         }
+    }
+
+    private static void imagesOfTerms() {
         sentence("BACK to one all that it keeps is as it was then: TERMS");
         int[] first = {8, 3, 2, 0, 10, 19, 6};
         int[] then = {7, 2, 1, 50, 20, 18, 5};
@@ -2666,6 +3118,9 @@ public final class EdgesTest {
         for (int what = 0; what < 7; what++) {
             due("terms(" + what + ")", y.terms(what, 1), then[what]);
         }
+    }
+
+    private static void imagesOfPapers() {
         sentence("BACK to one all that it keeps is as it was then: PAPERS, the one in USE");
         ExamSlips z = of(1);
         z.image(1);
@@ -2686,6 +3141,9 @@ public final class EdgesTest {
         due("takes by 0", z.takes(0, 1, 0), 5);
         z.use(1);
         due("takes by 1", z.takes(0, 1, 0), 6);
+    }
+
+    private static void imagesOfDiaries() {
         sentence("BACK to one all that it keeps is as it was then: the DIARY");
         ExamSlips w = of(2);
         w.image(1);
@@ -2701,6 +3159,9 @@ public final class EdgesTest {
         due("count(3)", w.count(3), 1);
         dueDays(w, 1, 0, 0, 1, 1);
         dueDays(w, 0, 0, 0, 0, 0);
+    }
+
+    private static void imagesOfFriendsAndYears() {
         sentence("BACK to one all that it keeps is as it was then: HOURS of FRIENDS");
         ExamSlips v = friendsOf(of(1), 8, 9, 10);
         v.image(0);
@@ -2727,6 +3188,9 @@ public final class EdgesTest {
         due("drawn(0, 1)", u.drawn(0, 1), 1);
         due("drawn(1, 1)", u.drawn(1, 1), 0);
         due("drawn(0, 0)", u.drawn(0, 0), 1);
+    }
+
+    private static void imagesAndWhatIsTold() {
         sentence("BACK: what is told of it is as it was then");
         ExamSlips t = oneOf(2);
         t.image(0);
@@ -2803,7 +3267,55 @@ public final class EdgesTest {
         due("count(0)", x.count(0), 1);
     }
 
+    private static void roomAgain() {
+        sentence("BACK: what was full has room again");
+        ExamSlips x = of(19);
+        for (int i = 0; i < 119; i++) {
+            x.lesson(0, 0);
+        }
+        for (int i = 0; i < 39; i++) {
+            x.year(0);
+        }
+        for (int i = 0; i < 5; i++) {
+            paper(x, "hours 1");
+        }
+        x.image(0);
+        for (int times = 0; times < 2; times++) {
+            due("question(0, 1)", x.question(0, 1), 19);
+            due("question(0, 1)", x.question(0, 1), -5);
+            due("lesson(0, 19)", x.lesson(0, 19), 120);
+            due("lesson(0, 19)", x.lesson(0, 19), -5);
+            due("year(0)", x.year(0), 40);
+            due("year(0)", x.year(0), -5);
+            due("paper()", paper(x, "hours 1"), 5);
+            due("paper()", paper(x, "hours 1"), -5);
+            x.back(0);
+        }
+        due("lesson(0, 19) of what is not there", x.lesson(0, 19), -2);
+        due("year(1 << 19) of what is not there", x.year(1 << 19), -1);
+        sentence("24. clear: 120 LESSONS have room again");
+        x.clear();
+        for (int i = 1; i <= 120; i++) {
+            due("lesson(0, 0)", x.lesson(0, 0), i);
+        }
+        due("lesson(0, 0)", x.lesson(0, 0), -5);
+        sentence("the TAPE is empty then: 400 bytes have room again");
+        tape(x, "?".repeat(400));
+        due("feed", x.feed(0, 0, 0, 0, 0), NONE);
+        x.row();
+        due("feed behind row", x.feed(0, 0, 0, 0, 0), 20);
+        tape(x, "?".repeat(400));
+        x.paper();
+        due("feed behind paper", x.feed(0, 0, 0, 0, 0), 20);
+    }
+
     private static void counts() {
+        countsOfThings();
+        countsOfRefusals();
+        noneIsNoRefusal();
+    }
+
+    private static void countsOfThings() {
         sentence("42. count: 0 QUESTIONS, 1 in the BOWL, 5 those KNOWN half or well");
         ExamSlips x = knowing(of(4), 0, 1, 2, 2);
         x.know(3, 2, 1);
@@ -2832,13 +3344,16 @@ public final class EdgesTest {
         due("count(13)", x.count(13), NONE);
         due("count(least)", x.count(LEAST), NONE);
         due("count(most)", x.count(MOST), NONE);
+    }
+
+    private static void countsOfRefusals() {
         sentence("42. count: 7 .. 11 how many calls were REFUSED by -1, -2, -3, -5, -6");
+        ExamSlips x = of(4);
         dueRefused(x, 0, 0, 0, 0);
         x.question(-1, 1);
         dueRefused(x, 1, 0, 0, 0);
         x.know(4, 0, 0);
         dueRefused(x, 1, 1, 0, 0);
-        x.row();
         x.row();
         dueRefused(x, 1, 1, 0, 1);
         x.paper();
@@ -2860,7 +3375,11 @@ public final class EdgesTest {
         x.lesson(0, 20);
         x.back(0);
         dueRefused(x, 9, 4, 4, 2);
+    }
+
+    private static void noneIsNoRefusal() {
         sentence("42. count: NONE is no refusal");
+        ExamSlips x = of(1);
         x.of(99, 0);
         x.feed(0, 0, 0, 0, 0);
         x.end(-1);
@@ -2885,7 +3404,7 @@ public final class EdgesTest {
         x.table(9);
         x.exams(0, 0);
         x.count(99);
-        dueRefused(x, 9, 4, 4, 2);
+        dueRefused(x, 0, 0, 0, 0);
     }
 
     private static void dueRefused(ExamSlips x, int cantBe, int noSuch, int noRoom, int unreadable) {
@@ -2906,6 +3425,11 @@ public final class EdgesTest {
     }
 
     private static void statuses() {
+        statusOfEachCall();
+        statusWithoutRoom();
+    }
+
+    private static void statusOfEachCall() {
         sentence("43. status: what the latest call of question .. back was REFUSED by; 0 if it was not");
         ExamSlips x = new ExamSlips();
         dueStatus(x, "question", x.question(5, 1), -1);
@@ -2937,7 +3461,14 @@ public final class EdgesTest {
         dueStatus(x, "back", x.back(1), -2);
         dueStatus(x, "back", x.back(0), 0);
         dueStatus(x, "back", x.back(2), -1);
+    }
+
+    private static void statusWithoutRoom() {
         sentence("43. status: -5, no room");
+        ExamSlips x = of(1);
+        paper(x, "hours 1");
+        x.lesson(0, 0);
+        x.year(1);
         for (int i = 1; i < 20; i++) {
             x.question(0, 1);
         }

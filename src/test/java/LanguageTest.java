@@ -3,7 +3,9 @@ import com.sun.source.util.*;
 import java.io.File;
 import java.util.*;
 import javax.lang.model.element.*;
+import javax.lang.model.type.ArrayType;
 import javax.lang.model.type.TypeKind;
+import javax.lang.model.type.TypeMirror;
 import javax.tools.*;
 
 /** Holds the program's text against the rules of LANGUAGE.md that can be read off it. */
@@ -121,7 +123,16 @@ public final class LanguageTest {
         public Void visitMethodInvocation(MethodInvocationTree tree, Void v) {
             Element called = trees.getElement(new TreePath(getCurrentPath(), tree.getMethodSelect()));
             note(tree, called);
+            if (called.getEnclosingElement().toString().equals("java.util.Arrays") && !takesNumbers(tree)) {
+                broken(4, tree, "not over an array of numbers: " + called.getSimpleName());
+            }
             return super.visitMethodInvocation(tree, v);
+        }
+
+        private boolean takesNumbers(MethodInvocationTree tree) {
+            TypeMirror first = trees.getTypeMirror(new TreePath(getCurrentPath(), tree.getArguments().get(0)));
+            return first instanceof ArrayType array && array.getComponentType().getKind().isPrimitive()
+                    && array.getComponentType().getKind() != TypeKind.BOOLEAN;
         }
 
         @Override
