@@ -1291,6 +1291,9 @@ public final class EdgesTest {
         y.terms(LEAN, 100);
         // 0, then two of the other three
         duePass(y, 2, 3);
+        y.terms(LEAN, 50);
+        duePass(y, 17, 24);
+        y.terms(LEAN, 100);
         y.terms(LIE, 4);
         duePass(y, 1, 1);
         y.terms(LIE, 5);
@@ -1714,6 +1717,11 @@ public final class EdgesTest {
         ExamSlips z = by(oneOf(2), "hours 3;hours 2 if question=1");
         dueBest(z, 5, 1, 2, 4);
         dueLevels(z, 5, 0, 2);
+        dueBest(z, 2, 1, 4, 2);
+        dueLevels(z, 2, 0, 1);
+        dueBest(z, 7, 3, 4, 7);
+        dueLevels(z, 7, 1, 2);
+        dueBest(by(oneOf(2), "hours 2;hours 3 if question=1"), 2, 1, 4, 2);
         // one well takes 12 hours, both half take 4
         ExamSlips w = by(oneOf(2), "hours 2;hours 10 if level=2");
         dueBest(w, 12, 1, 2, 4);
@@ -2403,6 +2411,10 @@ public final class EdgesTest {
         dueShare(friendsOf(by(of(2), "hours 5-question*3"), 3), 0, NONE, NONE);
         dueShare(friendsOf(by(of(4), "hours 9-question*2"), 6, 10), 2, NONE, NONE, 1, 0);
         dueShare(friendsOf(by(of(3), "hours 3;hours 7 if question=1;hours 5 if question=2"), 16), 2, 0, NONE, 0);
+        dueShare(friendsOf(by(of(3), "hours 3;hours 7 if question=1;hours 5 if question=2"), 6), 1, 0, NONE, NONE);
+        // 4, 2, 6 and 10 by 10 and 12: 4 and 6, 2 and 10
+        dueShare(friendsOf(by(of(4), "hours 2;hours 1 if question=1;hours 3 if question=2;hours 5 if question=3"), 10, 12),
+                4, 0, 1, 0, 1);
         sentence("as many together as can be: packed without a gap");
         ExamSlips six = by(of(6), "hours 3;hours 2 if question>2");
         dueShare(friendsOf(six, 10, 10, 10), 6, 0, 1, 2, 0, 1, 2);
@@ -2451,6 +2463,8 @@ public final class EdgesTest {
         dueShare(now, 2, 0, 0);
         now.question(0, 1);
         dueShare(now, 3, 0, 0, 1);
+        friendsOf(now, 0, 0);
+        dueShare(now, 0, NONE, NONE, NONE);
     }
 
     private static void ill() {
